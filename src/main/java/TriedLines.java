@@ -129,9 +129,13 @@ public final class TriedLines {
             System.arraycopy(other.lengths, 0, lengths, 0, MOST_CORES);
             System.arraycopy(other.sorts, 0, sorts, 0, MOST_CORES * MOST_DEEDS);
             System.arraycopy(other.wholes, 0, wholes, 0, MOST_CORES * MOST_DEEDS);
-            System.arraycopy(other.indexed, 0, indexed, 0, MOST_CORES * MOST_DEEDS);
             System.arraycopy(other.first, 0, first, 0, MOST_ADDRESSES);
-            System.arraycopy(other.given, 0, given, 0, MOST_ADDRESSES);
+            for (int i = 0; i < MOST_CORES * MOST_DEEDS; i++) {
+                indexed[i] = other.indexed[i];
+            }
+            for (int i = 0; i < MOST_ADDRESSES; i++) {
+                given[i] = other.given[i];
+            }
         }
 
         private int addresses() {
@@ -350,12 +354,12 @@ public final class TriedLines {
         }
 
         /** The number that the machine LINE tells behind a name; NONE if a FAULT is met. */
-        private int takeSetting(String name, int most, boolean notThree) {
+        private int takeSetting(String name, int most, boolean powersOnly) {
             if (!takeName(name)) {
                 return NONE;
             }
             int value = whole;
-            if (kind == WHOLE && notThree && value == 3) {
+            if (kind == WHOLE && powersOnly && value == 3) {
                 fail(FAULT_BOUNDS, start);
                 return NONE;
             }
@@ -541,10 +545,12 @@ public final class TriedLines {
         private void copyFrom(Cache other) {
             System.arraycopy(other.lines, 0, lines, 0, MOST_PLACES);
             System.arraycopy(other.states, 0, states, 0, MOST_PLACES);
-            System.arraycopy(other.readMarks, 0, readMarks, 0, MOST_PLACES);
-            System.arraycopy(other.writeMarks, 0, writeMarks, 0, MOST_PLACES);
             System.arraycopy(other.used, 0, used, 0, MOST_PLACES);
             System.arraycopy(other.words, 0, words, 0, MOST_PLACES * LONGEST_LINE);
+            for (int p = 0; p < MOST_PLACES; p++) {
+                readMarks[p] = other.readMarks[p];
+                writeMarks[p] = other.writeMarks[p];
+            }
         }
 
         private void dropLine(int p) {

@@ -5,6 +5,7 @@ public final class StepTests {
         values();
         indexed();
         savedAhead();
+        wholeLines();
         seeing();
         wins();
         waits();
@@ -153,6 +154,29 @@ public final class StepTests {
         place(t, 0, 0, 1, -2, 0, 0, 0, -2);
         place(t, 0, 0, 0, 16, 2, 0, 0, 5);
         Check.due("agrees", t.agrees(), 1);
+    }
+
+    /** A LINE comes, and is written, with all its words. */
+    private static void wholeLines() {
+        TriedLines t = Check.told(head(1, 2, 4, "wins", 2) + ";word 4 1;word 5 2;word 6 3;word 7 4;word 8 5;word 11 6"
+            + ";core;begin;plus 9;put 6;end;core;begin;get 11;get 5;end");
+        Check.steps(t, "00001", "11111");
+        Check.steps(t, "1", "1");
+        int[] due = {5, 0, 0, 6};
+        for (int k = 0; k < 4; k++) {
+            Check.due("cached(1, " + (8 + k) + ")", t.cached(1, 8 + k), due[k]);
+        }
+        Check.steps(t, "1", "3");
+        Check.steps(t, "11", "11");
+        Check.steps(t, "1", "1");
+        int[] written = {1, 2, 9, 4};
+        for (int k = 0; k < 4; k++) {
+            Check.due("memory(" + (4 + k) + ")", t.memory(4 + k), written[k]);
+            Check.due("cached(1, " + (4 + k) + ")", t.cached(1, 4 + k), written[k]);
+        }
+        Check.due("memory(3)", t.memory(3), 0);
+        Check.due("memory(8)", t.memory(8), 5);
+        core(t, 1, 3, 2, 0, 2);
     }
 
     /** TO SEE a LINE that others have ALONE, CHANGED. */
@@ -464,6 +488,15 @@ public final class StepTests {
         Check.due("alone(2, 1)", t.alone(2, 1), 0);
         Check.due("nothing is done", t.about(7), 0);
         Check.due("word(0)", t.word(0), 1);
+        // all DEEDS, behind the first end, too; A and X are 0 at each begin
+        TriedLines u = Check.told(head(1, 4, 1, "wins", 2) + ";core;begin;plus 3;mark;put 1;end;less 2;mark"
+            + ";begin;put 2 x;get 1 x;less 5;put 4;end");
+        Check.due("alone(0, 1)", u.alone(0, 1), 3);
+        Check.due("alone(0, 4)", u.alone(0, 4), 998);
+        u.rounds(20);
+        Check.due("serial(4)", u.serial(4), 998);
+        Check.due("word(4)", u.word(4), 998);
+        Check.due("agrees()", u.agrees(), 1);
     }
 
     private static void refusals() {

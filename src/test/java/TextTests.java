@@ -91,7 +91,14 @@ public final class TextTests {
         Check.feed(t, HEAD + ";core;core;plus 5");
         Check.due("machine() of a part", t.machine(HEAD.length() + 10), 2);
         Check.due("bytes behind n are no more", t.size(0), 0);
-        Check.refused(t, "machine(1) of nothing", t.machine(1), 2);
+        Check.refused(t, "machine(1) of nothing again", t.machine(1), 2);
+        // a TOKEN ends where the n bytes do
+        Check.feed(t, HEAD + ";core;mark");
+        Check.due("machine() up to mar", t.machine(HEAD.length() + 9), -1);
+        Check.due("its where()", t.where(), HEAD.length() + 6);
+        Check.feed(t, HEAD + ";core;plus 123");
+        Check.due("machine() up to plus 12", t.machine(HEAD.length() + 13), 1);
+        Check.due("its WHOLE", t.deed(0, 0, 1), 12);
         good(HEAD + ";core", 1);
         Check.faulty("", 1, 0);
     }
@@ -150,6 +157,12 @@ public final class TextTests {
         faulty(1, HEAD + ";core;begin;get 5 ^y;end");
         faulty(1, HEAD + ";core;begin;get 5 ^end");
         faulty(1, HEAD + ";core;^beginend");
+        faulty(1, HEAD + ";core;^markz");
+        faulty(1, HEAD + ";core;^amark");
+        faulty(1, HEAD + ";core;plus 90^/");
+        faulty(1, HEAD + ";core;plus 90^:");
+        faulty(1, HEAD + ";core^{");
+        faulty(1, HEAD + ";core^`");
         faulty(1, HEAD + ";core;^plusses");
         faulty(1, HEAD + ";core;plus ^1234");
         faulty(1, HEAD + ";core;plus 12^,");

@@ -67,6 +67,27 @@ public final class WhatIfTests {
         all(t, 2, 2, 1, 8, 1, 0, 0, 0, 0);
         TriedLines u = Check.told(head(1, 1, 1, "wins", 3) + ";core;begin;get 0;end");
         all(u, 0, 3, 0, 5, 0, 1, 0, 1, 0);
+        // DRAWS mod 2 from SEED 20: 0 0 0 0 1 1 0 ..: 0 begins, gets, ENDS by CAPACITY, has the LOCK; 1 WAITS,
+        // WAITS; 0 gets; 1 WAITS, WAITS; 0 ends; 0, 0, 0 nothing; 1 begins, ends
+        TriedLines v = Check.told(head(1, 2, 1, "wins", 3) + ";core;begin;get 0;get 1;end;core;begin;end");
+        all(v, 0, 3, 20, 13, 0, 1, 0, 1, 4);
+        // from SEED 3: 1 1 0 1 0 1 0 0 1 0 1 0 1 0 1 0 ..: 1 begins, gets; 0 begins; 1 ENDS by CAPACITY; 0 marks;
+        // 1 has the LOCK, so 0 ENDS, and WAITS four times; 1 gets, gets, ends; then 0 does its four
+        all(Check.told(head(1, 2, 1, "wins", 3) + ";core;begin;mark;mark;end;core;begin;get 0;get 1;end"), 0, 3, 3,
+            17, 0, 1, 1, 1, 4);
+        triedAfterAnother();
+    }
+
+    /** Each what if begins anew. */
+    private static void triedAfterAnother() {
+        TriedLines t = Check.told(head(1, 4, 1, "wins", 3) + ";word 0 4;core;begin;get 0;plus 1;put 0;end");
+        for (int i = 0; i < 3; i++) {
+            Check.due("triedWord()", t.triedWord(0, 3, 5, 0), 5);
+            Check.due("would()", t.would(0), 1);
+            Check.due("triedWord() again", t.triedWord(0, 3, 5, 0), 5);
+            Check.due("tried()", t.tried(0, 3, 5, 0), 5);
+            Check.due("best()", t.best(5), 0);
+        }
     }
 
     private static void triedFromTheBeginning() {
@@ -106,6 +127,8 @@ public final class WhatIfTests {
         TriedLines t = Check.told(head(1, 1, 1, "wins", 1) + many);
         Check.due("waysFor(0)", t.waysFor(0), 4);
         Check.due("waysFor without TRIES", t.waysFor(1), 1);
+        Check.due("waysFor of a later TRY", Check.told(head(1, 1, 1, "wins", 1)
+            + ";core;begin;get 0;end;begin;get 0;get 1;end;begin;end").waysFor(0), 3);
         Check.due("waysFor of an empty TRY", t.waysFor(2), 1);
         Check.due("by two SETS", Check.told(head(2, 1, 1, "wins", 1) + many).waysFor(0), 3);
         Check.due("by four SETS", Check.told(head(4, 1, 1, "wins", 1) + many).waysFor(0), 2);
@@ -156,7 +179,13 @@ public final class WhatIfTests {
             Check.due("lock()", t.lock(), -2);
             Check.steps(t, "0", "1");
         }
+        t.word(99);
+        Check.due("back() behind a refusal", t.back(), true);
+        Check.due("its trouble()", t.trouble(), 0);
+        Check.steps(t, "0", "1");
+        t.word(99);
         Check.due("keep() again", t.keep(), true);
+        Check.due("its trouble()", t.trouble(), 0);
         Check.steps(t, "0", "1");
         t.back();
         Check.due("what was kept before is no more", t.about(7), 4);
@@ -179,6 +208,11 @@ public final class WhatIfTests {
         Check.due("done(2) then", Check.done(t, 2), 3);
         Check.due("done(3) then", Check.done(t, 3), Check.THROWN);
         Check.due("done() leaves trouble()", t.trouble(), 1);
+        t.step(0);
+        Check.due("done(0) at last", Check.done(t, 0), 0);
+        Check.due("done(3) at last", Check.done(t, 3), 3);
+        Check.due("done(4) at last", Check.done(t, 4), Check.THROWN);
+        Check.due("done(MIN)", Check.done(t, Integer.MIN_VALUE), Check.THROWN);
     }
 
     private static void sizes() {
