@@ -99,7 +99,6 @@ public final class TriedLines {
         private final int[] wholes = new int[MOST_CORES * MOST_DEEDS];
         private final boolean[] indexed = new boolean[MOST_CORES * MOST_DEEDS];
         private final int[] first = new int[MOST_ADDRESSES];
-        private final boolean[] given = new boolean[MOST_ADDRESSES];
 
         private void clear() {
             sets = 0;
@@ -114,7 +113,6 @@ public final class TriedLines {
             }
             for (int i = 0; i < MOST_ADDRESSES; i++) {
                 first[i] = 0;
-                given[i] = false;
             }
         }
 
@@ -132,9 +130,6 @@ public final class TriedLines {
             System.arraycopy(other.first, 0, first, 0, MOST_ADDRESSES);
             for (int i = 0; i < MOST_CORES * MOST_DEEDS; i++) {
                 indexed[i] = other.indexed[i];
-            }
-            for (int i = 0; i < MOST_ADDRESSES; i++) {
-                given[i] = other.given[i];
             }
         }
 
@@ -199,7 +194,6 @@ public final class TriedLines {
         private void addWord(int address, int value) {
             if (hasAddress(address)) {
                 first[address] = value;
-                given[address] = true;
                 told++;
             }
         }
@@ -228,6 +222,7 @@ public final class TriedLines {
 
         private final Plan plan;
         private final int[] bytes;
+        private final boolean[] given = new boolean[MOST_ADDRESSES];
         private int end;
         private int kind;
         private int start;
@@ -252,6 +247,9 @@ public final class TriedLines {
             open = false;
             faultNumber = 0;
             faultPlace = 0;
+            for (int i = 0; i < MOST_ADDRESSES; i++) {
+                given[i] = false;
+            }
             advance();
             for (int i = 0; i <= TAPE_ROOM; i++) {
                 if (!readLine()) {
@@ -460,13 +458,14 @@ public final class TriedLines {
             if (!takeWhole(0, plan.addresses() - 1)) {
                 return false;
             }
-            if (plan.hasAddress(address) && plan.given[address]) {
+            if (!plan.hasAddress(address) || given[address]) {
                 return fail(FAULT_AGAIN, at);
             }
             int value = whole;
             if (!takeWhole(0, VALUES - 1)) {
                 return false;
             }
+            given[address] = true;
             plan.addWord(address, value);
             return true;
         }

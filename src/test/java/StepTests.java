@@ -25,58 +25,26 @@ public final class StepTests {
         Check.end("StepTests");
     }
 
-    private static String head(int sets, int ways, int words, String rule, int tries) {
-        return "machine sets " + sets + " ways " + ways + " words " + words + " rule " + rule + " tries " + tries;
-    }
-
-    private static void core(TriedLines t, int c, int... due) {
-        for (int what = 0; what < due.length; what++) {
-            Check.due("core(" + c + ", " + what + ")", t.core(c, what), due[what]);
-        }
-    }
-
-    private static void count(TriedLines t, int c, int... due) {
-        for (int what = 0; what < due.length; what++) {
-            Check.due("count(" + c + ", " + what + ")", t.count(c, what), due[what]);
-        }
-    }
-
-    private static void place(TriedLines t, int c, int set, int way, int... due) {
-        for (int what = 0; what < due.length; what++) {
-            Check.due("place(" + c + ", " + set + ", " + way + ", " + what + ")", t.place(c, set, way, what), due[what]);
-        }
-    }
-
-    private static void traffic(TriedLines t, int... due) {
-        for (int what = 0; what < due.length; what++) {
-            Check.due("traffic(" + what + ")", t.traffic(what), due[what]);
-        }
-    }
-
-    private static void would(TriedLines t, int c, int outcome, int ends) {
-        Check.due("would(" + c + ")", t.would(c), outcome);
-        Check.due("wouldEnd(" + c + ")", t.wouldEnd(c), ends);
-    }
-
     private static void oneCore() {
-        TriedLines t = Check.told(head(1, 2, 2, "wins", 2) + ";word 0 5;word 3 7;core;begin;get 0;plus 1;put 1;end;mark");
-        core(t, 0, 0, 0, 0, 0, 0, -2, 6);
-        count(t, 0, 0, 0, 0, 0, 0, 0, 0);
-        place(t, 0, 0, 0, -2, 0, 0, 0, -2);
-        traffic(t, 0, 0, 0);
+        TriedLines t = Check.told(Look.head(1, 2, 2, "wins", 2)
+            + ";word 0 5;word 3 7;core;begin;get 0;plus 1;put 1;end;mark");
+        Look.core(t, 0, 0, 0, 0, 0, 0, -2, 6);
+        Look.count(t, 0, 0, 0, 0, 0, 0, 0, 0);
+        Look.place(t, 0, 0, 0, -2, 0, 0, 0, -2);
+        Look.traffic(t, 0, 0, 0);
         Check.due("cached without the LINE", t.cached(0, 0), -2);
-        would(t, 0, 1, 0);
+        Look.would(t, 0, 1, 0);
         Check.due("would() does nothing", t.about(7), 0);
         Check.steps(t, "0", "1");
-        core(t, 0, 1, 0, 0, 1, 0, 1, 6);
-        place(t, 0, 0, 0, 16, 2, 1, 0, 1);
+        Look.core(t, 0, 1, 0, 0, 1, 0, 1, 6);
+        Look.place(t, 0, 0, 0, 16, 2, 1, 0, 1);
         Check.steps(t, "0", "1");
-        core(t, 0, 2, 5, 0, 1, 0, 1, 6);
-        place(t, 0, 0, 1, 0, 2, 1, 0, 2);
+        Look.core(t, 0, 2, 5, 0, 1, 0, 1, 6);
+        Look.place(t, 0, 0, 1, 0, 2, 1, 0, 2);
         Check.due("reads", t.reads(0), 1 << 16 | 1);
         Check.due("writes", t.writes(0), 0);
         Check.steps(t, "00", "11");
-        place(t, 0, 0, 1, 0, 3, 1, 1, 4);
+        Look.place(t, 0, 0, 1, 0, 3, 1, 1, 4);
         Check.due("writes", t.writes(0), 1);
         Check.due("cached(0, 1)", t.cached(0, 1), 6);
         Check.due("cached(0, 0)", t.cached(0, 0), 5);
@@ -92,44 +60,46 @@ public final class StepTests {
         Check.due("agrees", t.agrees(), 1);
         Check.due("reads", t.reads(0), 0);
         Check.due("writes", t.writes(0), 0);
-        place(t, 0, 0, 1, 0, 3, 0, 0, 4);
-        core(t, 0, 5, 6, 0, 0, 0, -2, 6);
-        count(t, 0, 0, 0, 0, 0, 1, 0, 0);
-        traffic(t, 2, 0, 0);
+        Look.place(t, 0, 0, 1, 0, 3, 0, 0, 4);
+        Look.core(t, 0, 5, 6, 0, 0, 0, -2, 6);
+        Look.count(t, 0, 0, 0, 0, 0, 1, 0, 0);
+        Look.traffic(t, 2, 0, 0);
         int[] commit = {0, 0, 5, 0};
         for (int what = 0; what < 4; what++) {
             Check.due("commit(0, " + what + ")", t.commit(0, what), commit[what]);
         }
         Check.steps(t, "0", "1");
-        core(t, 0, -2, 6, 6, 0, 0, -2, 6);
-        would(t, 0, 0, 0);
+        Look.core(t, 0, -2, 6, 6, 0, 0, -2, 6);
+        Look.would(t, 0, 0, 0);
         Check.steps(t, "0", "0");
         Check.due("no TIME without DEEDS", t.about(7), 6);
     }
 
     private static void values() {
-        TriedLines t = Check.told(head(1, 2, 1, "wins", 2) + ";core;less 1;plus 2;mark;less 999;begin;plus 999;plus 2;mark;end");
+        TriedLines t = Check.told(Look.head(1, 2, 1, "wins", 2)
+            + ";core;less 1;plus 2;mark;less 999;begin;plus 999;plus 2;mark;end");
         Check.steps(t, "0", "1");
-        core(t, 0, 1, 999, 0);
+        Look.core(t, 0, 1, 999, 0);
         Check.steps(t, "00", "11");
-        core(t, 0, 3, 1, 1);
+        Look.core(t, 0, 3, 1, 1);
         Check.steps(t, "0", "1");
-        core(t, 0, 4, 2, 1);
+        Look.core(t, 0, 4, 2, 1);
         Check.steps(t, "0", "1");
-        core(t, 0, 5, 0, 0);
+        Look.core(t, 0, 5, 0, 0);
         Check.steps(t, "000", "111");
-        core(t, 0, 8, 1, 1);
+        Look.core(t, 0, 8, 1, 1);
     }
 
     private static void indexed() {
-        TriedLines t = Check.told(head(1, 4, 1, "wins", 2) + ";word 3 77;word 2 8;core;begin;plus 19;mark;get 0 x;put 15 x;get 2;end");
+        TriedLines t = Check.told(Look.head(1, 4, 1, "wins", 2)
+            + ";word 3 77;word 2 8;core;begin;plus 19;mark;get 0 x;put 15 x;get 2;end");
         Check.steps(t, "0000", "1111");
-        core(t, 0, 4, 77, 19, 1);
+        Look.core(t, 0, 4, 77, 19, 1);
         Check.due("reads by X", t.reads(0), 1 << 16 | 1 << 3);
         Check.steps(t, "0", "1");
         Check.due("writes by X", t.writes(0), 1 << 2);
         Check.steps(t, "00", "11");
-        core(t, 0, -2, 77, 19, 0);
+        Look.core(t, 0, -2, 77, 19, 0);
         Check.due("word(2)", t.word(2), 77);
         Check.due("serial(2)", t.serial(2), 77);
         Check.due("alone(0, 2)", t.alone(0, 2), 77);
@@ -137,7 +107,8 @@ public final class StepTests {
 
     /** A put in a TRY on a LINE CHANGED without a WRITE mark writes it to MEMORY. */
     private static void savedAhead() {
-        TriedLines t = Check.told(head(1, 4, 1, "wins", 2) + ";core;begin;plus 5;put 0;end;begin;plus 9;put 0;put 0;end");
+        TriedLines t = Check.told(Look.head(1, 4, 1, "wins", 2)
+            + ";core;begin;plus 5;put 0;end;begin;plus 9;put 0;put 0;end");
         Check.steps(t, "000000", "111111");
         Check.due("memory(0) ahead", t.memory(0), 0);
         Check.due("word(0) ahead", t.word(0), 5);
@@ -145,20 +116,21 @@ public final class StepTests {
         Check.due("memory(0)", t.memory(0), 5);
         Check.due("word(0)", t.word(0), 5);
         Check.due("cached(0, 0)", t.cached(0, 0), 9);
-        traffic(t, 2, 1, 0);
+        Look.traffic(t, 2, 1, 0);
         Check.steps(t, "0", "1");
-        traffic(t, 2, 1, 0);
+        Look.traffic(t, 2, 1, 0);
         Check.due("interrupt(0)", t.interrupt(0), 4);
         Check.due("word(0) then", t.word(0), 5);
         Check.due("the LINE is gone", t.cached(0, 0), -2);
-        place(t, 0, 0, 1, -2, 0, 0, 0, -2);
-        place(t, 0, 0, 0, 16, 2, 0, 0, 5);
+        Look.place(t, 0, 0, 1, -2, 0, 0, 0, -2);
+        Look.place(t, 0, 0, 0, 16, 2, 0, 0, 5);
         Check.due("agrees", t.agrees(), 1);
     }
 
     /** A LINE comes, and is written, with all its words. */
     private static void wholeLines() {
-        TriedLines t = Check.told(head(1, 2, 4, "wins", 2) + ";word 4 1;word 5 2;word 6 3;word 7 4;word 8 5;word 11 6"
+        TriedLines t = Check.told(Look.head(1, 2, 4, "wins", 2)
+            + ";word 4 1;word 5 2;word 6 3;word 7 4;word 8 5;word 11 6"
             + ";core;begin;plus 9;put 6;end;core;begin;get 11;get 5;end");
         Check.steps(t, "00001", "11111");
         Check.steps(t, "1", "1");
@@ -176,65 +148,66 @@ public final class StepTests {
         }
         Check.due("memory(3)", t.memory(3), 0);
         Check.due("memory(8)", t.memory(8), 5);
-        core(t, 1, 3, 2, 0, 2);
+        Look.core(t, 1, 3, 2, 0, 2);
     }
 
     /** TO SEE a LINE that others have ALONE, CHANGED. */
     private static void seeing() {
-        TriedLines t = Check.told(head(1, 4, 1, "wins", 2) + ";core;begin;plus 4;put 0;end;begin;get 0;end;core;begin;get 0;get 1;end");
+        TriedLines t = Check.told(Look.head(1, 4, 1, "wins", 2)
+            + ";core;begin;plus 4;put 0;end;begin;get 0;end;core;begin;get 0;get 1;end");
         Check.steps(t, "0000", "1111");
         Check.steps(t, "1", "1");
-        place(t, 0, 0, 0, 16, 1, 0, 0, 1);
-        place(t, 1, 0, 0, 16, 1, 1, 0, 5);
+        Look.place(t, 0, 0, 0, 16, 1, 0, 0, 1);
+        Look.place(t, 1, 0, 0, 16, 1, 1, 0, 5);
         Check.due("sharers(16)", t.sharers(16), 3);
         Check.due("sharers(0)", t.sharers(0), 1);
         Check.steps(t, "1", "1");
-        core(t, 1, 2, 4);
+        Look.core(t, 1, 2, 4);
         Check.due("memory(0)", t.memory(0), 4);
-        place(t, 0, 0, 1, 0, 1, 0, 0, 3);
-        place(t, 1, 0, 1, 0, 1, 1, 0, 6);
-        traffic(t, 4, 1, 0);
+        Look.place(t, 0, 0, 1, 0, 1, 0, 0, 3);
+        Look.place(t, 1, 0, 1, 0, 1, 1, 0, 6);
+        Look.traffic(t, 4, 1, 0);
         Check.due("sharers(0)", t.sharers(0), 3);
         Check.steps(t, "1", "1");
-        place(t, 1, 0, 2, 1, 2, 1, 0, 7);
+        Look.place(t, 1, 0, 2, 1, 2, 1, 0, 7);
         // a LINE that is there comes not again, and stays as it is
         Check.steps(t, "00", "11");
-        place(t, 0, 0, 1, 0, 1, 1, 0, 9);
-        traffic(t, 5, 1, 0);
-        count(t, 1, 0, 0, 0, 0, 0, 0, 0);
+        Look.place(t, 0, 0, 1, 0, 1, 1, 0, 9);
+        Look.traffic(t, 5, 1, 0);
+        Look.count(t, 1, 0, 0, 0, 0, 0, 0, 0);
     }
 
     private static void wins() {
         String two = ";core;begin;put 0;end;core;begin;put 0;get 1;end;core;begin;get 0;end";
-        TriedLines t = Check.told(head(1, 4, 1, "wins", 3) + two);
+        TriedLines t = Check.told(Look.head(1, 4, 1, "wins", 3) + two);
         Check.steps(t, "0110", "1111");
-        core(t, 0, 2, 0, 0, 1, 0, 1);
-        core(t, 1, 0, 0, 0, 0, 1, 2);
-        count(t, 1, 1);
+        Look.core(t, 0, 2, 0, 0, 1, 0, 1);
+        Look.core(t, 1, 0, 0, 0, 0, 1, 2);
+        Look.count(t, 1, 1);
         Check.due("the LINE with a WRITE mark is gone", t.sharers(0), 1);
         Check.due("it was not gone TO OWN it", t.traffic(2), 0);
         Check.steps(t, "2", "1");
-        would(t, 2, 1, 1);
+        Look.would(t, 2, 1, 1);
         Check.steps(t, "2", "1");
-        core(t, 0, 0, 0, 0, 0, 1, 1);
+        Look.core(t, 0, 0, 0, 0, 0, 1, 1);
         Check.steps(t, "1", "1");
-        would(t, 1, 1, 4);
+        Look.would(t, 1, 1, 4);
         Check.steps(t, "1", "1");
-        core(t, 2, 0, 0, 0, 0, 1, 5);
+        Look.core(t, 2, 0, 0, 0, 0, 1, 5);
         Check.due("gone TO OWN it", t.traffic(2), 1);
         Check.due("AGE stays", t.core(1, 5), 2);
     }
 
     private static void waits() {
-        TriedLines t = Check.told(head(1, 4, 1, "age", 3) + ";core;begin;put 0;end;core;begin;plus 3;put 0;end");
+        TriedLines t = Check.told(Look.head(1, 4, 1, "age", 3) + ";core;begin;put 0;end;core;begin;plus 3;put 0;end");
         Check.steps(t, "01110", "11111");
-        count(t, 1, 1, 0, 0, 0, 0, 0, 0);
-        core(t, 1, 0, 0, 0, 0, 1, 2);
+        Look.count(t, 1, 1, 0, 0, 0, 0, 0, 0);
+        Look.core(t, 1, 0, 0, 0, 0, 1, 2);
         Check.steps(t, "11", "11");
-        would(t, 1, 2, 0);
+        Look.would(t, 1, 2, 0);
         Check.steps(t, "1", "2");
-        core(t, 1, 2, 3, 0, 1, 1, 2);
-        count(t, 1, 1, 0, 0, 0, 0, 0, 1);
+        Look.core(t, 1, 2, 3, 0, 1, 1, 2);
+        Look.count(t, 1, 1, 0, 0, 0, 0, 0, 1);
         Check.due("a STEP that WAITS takes TIME", t.about(7), 8);
         Check.due("and does nothing", t.sharers(0), 1);
         Check.steps(t, "01", "11");
@@ -242,54 +215,55 @@ public final class StepTests {
         Check.due("memory(0)", t.memory(0), 0);
         Check.steps(t, "1", "1");
         Check.due("word(0)", t.word(0), 3);
-        core(t, 1, -2, 3, 0, 0, 0, -2);
+        Look.core(t, 1, -2, 3, 0, 0, 0, -2);
     }
 
     /** By age a core WAITS if but one of those asked is older. */
     private static void waitsForOneOfTwo() {
-        TriedLines t = Check.told(head(1, 4, 1, "age", 3) + ";core;begin;get 0;end;core;begin;put 0;end;core;begin;get 0;end");
+        TriedLines t = Check.told(Look.head(1, 4, 1, "age", 3)
+            + ";core;begin;get 0;end;core;begin;put 0;end;core;begin;get 0;end");
         Check.steps(t, "01202", "11111");
-        would(t, 1, 2, 0);
+        Look.would(t, 1, 2, 0);
         Check.steps(t, "1", "2");
         Check.steps(t, "0", "1");
-        would(t, 1, 1, 4);
+        Look.would(t, 1, 1, 4);
         Check.steps(t, "1", "1");
-        count(t, 2, 1);
-        count(t, 1, 0, 0, 0, 0, 0, 0, 1);
+        Look.count(t, 2, 1);
+        Look.count(t, 1, 0, 0, 0, 0, 0, 0, 1);
     }
 
     private static void yields() {
-        TriedLines t = Check.told(head(1, 4, 1, "yields", 3) + ";core;begin;put 1;put 0;end;core;begin;get 0;end");
+        TriedLines t = Check.told(Look.head(1, 4, 1, "yields", 3) + ";core;begin;put 1;put 0;end;core;begin;get 0;end");
         Check.steps(t, "0110", "1111");
-        would(t, 0, 3, 1);
+        Look.would(t, 0, 3, 1);
         Check.steps(t, "0", "3");
-        core(t, 0, 0, 0, 0, 0, 1, 1);
-        count(t, 0, 1);
-        core(t, 1, 2, 0, 0, 1, 0, 2);
+        Look.core(t, 0, 0, 0, 0, 0, 1, 1);
+        Look.count(t, 0, 1);
+        Look.core(t, 1, 2, 0, 0, 1, 0, 2);
         Check.due("sharers(1)", t.sharers(1), 0);
         Check.due("TIME", t.about(7), 5);
         Check.due("LOCK's LINE stays", t.sharers(16), 3);
         // TO SEE asks not those with READ marks
-        TriedLines u = Check.told(head(1, 4, 1, "yields", 3) + ";core;begin;get 0;end;core;begin;get 0;end");
+        TriedLines u = Check.told(Look.head(1, 4, 1, "yields", 3) + ";core;begin;get 0;end;core;begin;get 0;end");
         Check.steps(u, "010110", "111111");
     }
 
     private static void capacity() {
-        TriedLines t = Check.told(head(1, 1, 1, "wins", 3) + ";core;begin;get 0;plus 2;put 0;end");
+        TriedLines t = Check.told(Look.head(1, 1, 1, "wins", 3) + ";core;begin;get 0;plus 2;put 0;end");
         Check.steps(t, "0", "1");
-        would(t, 0, 3, 1);
+        Look.would(t, 0, 3, 1);
         Check.steps(t, "0", "3");
-        count(t, 0, 0, 1, 0, 0, 0, 0, 0);
-        core(t, 0, 0, 0, 0, 0, 3, 1);
-        traffic(t, 1, 0, 0);
+        Look.count(t, 0, 0, 1, 0, 0, 0, 0, 0);
+        Look.core(t, 0, 0, 0, 0, 0, 3, 1);
+        Look.traffic(t, 1, 0, 0);
         Check.due("lock()", t.lock(), -2);
         Check.steps(t, "0", "1");
         Check.due("lock()", t.lock(), 0);
-        core(t, 0, 1, 0, 0, 2, 3, 1);
-        place(t, 0, 0, 0, 16, 3, 0, 0, 3);
+        Look.core(t, 0, 1, 0, 0, 2, 3, 1);
+        Look.place(t, 0, 0, 0, 16, 3, 0, 0, 3);
         Check.steps(t, "0", "1");
-        place(t, 0, 0, 0, 0, 2, 0, 0, 4);
-        traffic(t, 2, 1, 0);
+        Look.place(t, 0, 0, 0, 0, 2, 0, 0, 4);
+        Look.traffic(t, 2, 1, 0);
         Check.steps(t, "00", "11");
         Check.due("reads", t.reads(0), 0);
         Check.due("writes", t.writes(0), 0);
@@ -299,53 +273,53 @@ public final class StepTests {
         Check.due("lock()", t.lock(), -2);
         Check.due("agrees", t.agrees(), 1);
         Check.due("memory(0)", t.memory(0), 0);
-        count(t, 0, 0, 1, 0, 0, 1, 1, 0);
-        core(t, 0, -2, 2, 0, 0, 0, -2);
+        Look.count(t, 0, 0, 1, 0, 0, 1, 1, 0);
+        Look.core(t, 0, -2, 2, 0, 0, 0, -2);
         Check.due("commit(0, 3)", t.commit(0, 3), 1);
         Check.due("commit(0, 2)", t.commit(0, 2), 7);
     }
 
     /** Those asked END ahead of the search for a PLACE. */
     private static void capacityBehindConflict() {
-        TriedLines t = Check.told(head(1, 2, 1, "wins", 2) + ";core;begin;get 1;get 0;end;core;begin;put 0;end");
+        TriedLines t = Check.told(Look.head(1, 2, 1, "wins", 2) + ";core;begin;get 1;get 0;end;core;begin;put 0;end");
         Check.steps(t, "0101", "1111");
-        would(t, 0, 3, 3);
+        Look.would(t, 0, 3, 3);
         Check.steps(t, "0", "3");
-        count(t, 0, 0, 1);
-        count(t, 1, 1, 0);
+        Look.count(t, 0, 0, 1);
+        Look.count(t, 1, 1, 0);
         Check.due("LOST by CAPACITY", t.core(0, 4), 2);
         Check.due("LOST by CONFLICT", t.core(1, 4), 1);
     }
 
     private static void theLock() {
-        TriedLines t = Check.told(head(1, 4, 1, "wins", 1)
+        TriedLines t = Check.told(Look.head(1, 4, 1, "wins", 1)
             + ";core;begin;plus 1;put 0;put 1;end;core;begin;put 0;end;core;plus 7;begin;end");
         Check.steps(t, "00011", "11111");
-        count(t, 0, 1);
+        Look.count(t, 0, 1);
         Check.due("core(0, 4)", t.core(0, 4), 1);
         Check.due("lock()", t.lock(), -2);
-        would(t, 0, 1, 2);
+        Look.would(t, 0, 1, 2);
         Check.steps(t, "0", "1");
         Check.due("lock()", t.lock(), 0);
-        core(t, 0, 1, 0, 0, 2, 1, 1);
-        core(t, 1, 0, 0, 0, 0, 0, 4);
-        count(t, 1, 0, 0, 0, 1);
+        Look.core(t, 0, 1, 0, 0, 2, 1, 1);
+        Look.core(t, 1, 0, 0, 0, 0, 0, 4);
+        Look.count(t, 1, 0, 0, 0, 1);
         Check.due("traffic(2)", t.traffic(2), 1);
         Check.due("sharers(16)", t.sharers(16), 1);
-        would(t, 1, 2, 0);
+        Look.would(t, 1, 2, 0);
         Check.steps(t, "122", "212");
-        count(t, 1, 0, 0, 0, 1, 0, 0, 1);
+        Look.count(t, 1, 0, 0, 0, 1, 0, 0, 1);
         // one that WAITS at its begin has done nothing
-        core(t, 2, 1, 7, 0, 0, 0, -2);
+        Look.core(t, 2, 1, 7, 0, 0, 0, -2);
         Check.due("interrupt of the LOCK's core", t.interrupt(0), -1);
         Check.due("its trouble()", t.trouble(), 5);
         Check.steps(t, "0000", "1111");
         Check.due("lock()", t.lock(), -2);
-        place(t, 0, 0, 0, 16, 3, 0, 0, 6);
+        Look.place(t, 0, 0, 0, 16, 3, 0, 0, 6);
         int written = t.traffic(1);
         Check.steps(t, "1", "1");
         Check.due("the LOCK's LINE is written", t.traffic(1), written + 1);
-        place(t, 0, 0, 0, 16, 1, 0, 0, 6);
+        Look.place(t, 0, 0, 0, 16, 1, 0, 0, 6);
         Check.due("AGE stays behind the LOCK", t.core(1, 5), 4);
         Check.due("commit(0, 0)", t.commit(0, 0), 0);
         Check.due("commit(0, 3)", t.commit(0, 3), 1);
@@ -355,57 +329,58 @@ public final class StepTests {
     /** With LOST at TRIES a begin WAITS for the LOCK, too; whatever the RULE, TRIES END by it. */
     private static void twoForTheLock() {
         for (String rule : new String[] {"wins", "age", "yields"}) {
-            TriedLines t = Check.told(head(1, 1, 1, rule, 1) + ";core;begin;get 0;end;core;begin;get 1;end;core;begin;end");
+            TriedLines t = Check.told(Look.head(1, 1, 1, rule, 1)
+                + ";core;begin;get 0;end;core;begin;get 1;end;core;begin;end");
             Check.steps(t, "20011", "11313");
             Check.steps(t, "0", "1");
-            count(t, 2, 0, 0, 0, 1);
-            would(t, 1, 2, 0);
+            Look.count(t, 2, 0, 0, 0, 1);
+            Look.would(t, 1, 2, 0);
             Check.steps(t, "1001", "2111");
             Check.due("lock()", t.lock(), 1);
-            core(t, 0, -2, 0, 0, 0, 0, -2);
+            Look.core(t, 0, -2, 0, 0, 0, 0, -2);
         }
     }
 
     private static void leastUsed() {
-        TriedLines t = Check.told(head(1, 3, 1, "wins", 2)
+        TriedLines t = Check.told(Look.head(1, 3, 1, "wins", 2)
             + ";core;begin;get 0;get 1;end;begin;get 0;end;begin;get 2;get 3;put 4;end;begin;put 5;end");
         Check.steps(t, "000000", "111111");
-        place(t, 0, 0, 1, 0, 2, 1, 0, 6);
-        place(t, 0, 0, 2, 1, 2, 0, 0, 3);
+        Look.place(t, 0, 0, 1, 0, 2, 1, 0, 6);
+        Look.place(t, 0, 0, 2, 1, 2, 0, 0, 3);
         Check.steps(t, "000", "111");
-        place(t, 0, 0, 2, 2, 2, 1, 0, 9);
+        Look.place(t, 0, 0, 2, 2, 2, 1, 0, 9);
         Check.steps(t, "0", "1");
-        place(t, 0, 0, 1, 3, 2, 1, 0, 10);
+        Look.place(t, 0, 0, 1, 3, 2, 1, 0, 10);
         Check.steps(t, "0", "3");
         // USED like: the first; READ marks gone, all three of the TRY stay
-        place(t, 0, 0, 0, 16, 2, 0, 0, 8);
-        place(t, 0, 0, 1, 3, 2, 0, 0, 10);
-        place(t, 0, 0, 2, 2, 2, 0, 0, 9);
+        Look.place(t, 0, 0, 0, 16, 2, 0, 0, 8);
+        Look.place(t, 0, 0, 1, 3, 2, 0, 0, 10);
+        Look.place(t, 0, 0, 2, 2, 2, 0, 0, 9);
         Check.steps(t, "00000", "11111");
-        place(t, 0, 0, 0, 4, 3, 0, 0, 15);
+        Look.place(t, 0, 0, 0, 4, 3, 0, 0, 15);
         Check.due("the LOCK's LINE was written", t.traffic(1), 1);
         Check.due("traffic(0)", t.traffic(0), 6);
     }
 
     private static void sets() {
-        TriedLines t = Check.told(head(4, 1, 2, "wins", 2) + ";core;begin;get 2;get 5;get 15;put 8;end");
+        TriedLines t = Check.told(Look.head(4, 1, 2, "wins", 2) + ";core;begin;get 2;get 5;get 15;put 8;end");
         Check.steps(t, "0000", "1111");
-        place(t, 0, 0, 0, 16, 2, 1);
-        place(t, 0, 1, 0, 1, 2, 1);
-        place(t, 0, 2, 0, 2, 2, 1);
-        place(t, 0, 3, 0, 7, 2, 1);
+        Look.place(t, 0, 0, 0, 16, 2, 1);
+        Look.place(t, 0, 1, 0, 1, 2, 1);
+        Look.place(t, 0, 2, 0, 2, 2, 1);
+        Look.place(t, 0, 3, 0, 7, 2, 1);
         Check.due("reads", t.reads(0), 1 << 16 | 1 << 1 | 1 << 2 | 1 << 7);
         Check.steps(t, "0", "3");
         Check.due("LINE 4 is in the SET of the LOCK's", t.count(0, 1), 1);
     }
 
     private static void interrupts() {
-        TriedLines t = Check.told(head(1, 4, 1, "wins", 2) + ";core;mark;begin;plus 4;mark;get 1;put 0;end");
+        TriedLines t = Check.told(Look.head(1, 4, 1, "wins", 2) + ";core;mark;begin;plus 4;mark;get 1;put 0;end");
         Check.refused(t, "interrupt OUT", t.interrupt(0), 5);
         Check.steps(t, "000000", "111111");
         Check.due("interrupt(0)", t.interrupt(0), 1);
-        core(t, 0, 1, 0, 0, 0, 0, 2, 7);
-        count(t, 0, 0, 0, 1, 0, 0, 0, 0);
+        Look.core(t, 0, 1, 0, 0, 0, 0, 2, 7);
+        Look.count(t, 0, 0, 0, 1, 0, 0, 0, 0);
         Check.due("no TIME", t.about(7), 6);
         Check.due("reads", t.reads(0), 0);
         Check.due("sharers(1)", t.sharers(1), 1);
@@ -416,7 +391,7 @@ public final class StepTests {
     }
 
     private static void advices() {
-        TriedLines t = Check.told(head(1, 4, 1, "wins", 2) + ";core;begin;put 0;end;core;begin;put 0;end;core");
+        TriedLines t = Check.told(Look.head(1, 4, 1, "wins", 2) + ";core;begin;put 0;end;core;begin;put 0;end;core");
         Check.refused(t, "advice OUT", t.advice(0, 0), 5);
         Check.refused(t, "advice by 4, OUT", t.advice(0, 4), 2);
         Check.refused(t, "advice of no core by 4", t.advice(3, 4), 1);
@@ -436,7 +411,7 @@ public final class StepTests {
     }
 
     private static void rounds() {
-        TriedLines t = Check.told(head(1, 4, 1, "wins", 2) + ";core;mark;core;core;mark;mark;plus 1");
+        TriedLines t = Check.told(Look.head(1, 4, 1, "wins", 2) + ";core;mark;core;core;mark;mark;plus 1");
         Check.refused(t, "rounds(0)", t.rounds(0), 2);
         Check.refused(t, "rounds(201)", t.rounds(201), 2);
         Check.due("rounds(1)", t.rounds(1), 2);
@@ -446,16 +421,16 @@ public final class StepTests {
         Check.due("about(7)", t.about(7), 4);
         Check.due("rounds(1) behind all", t.rounds(1), 0);
         // by numbers: the later core wins the LINE of the earlier one
-        TriedLines u = Check.told(head(1, 4, 1, "wins", 2) + ";core;begin;put 0;end;core;begin;put 0;end");
+        TriedLines u = Check.told(Look.head(1, 4, 1, "wins", 2) + ";core;begin;put 0;end;core;begin;put 0;end");
         Check.due("rounds(2)", u.rounds(2), 4);
-        count(u, 0, 1);
-        count(u, 1, 0);
+        Look.count(u, 0, 1);
+        Look.count(u, 1, 0);
         Check.due("core(1, 5)", u.core(1, 5), 2);
     }
 
     /** From SEED 1 the DRAWS are 152, 238, 78, 175, 15: mod 3 these are 2, 1, 0, 1, 0. */
     private static void draws() {
-        TriedLines t = Check.told(head(1, 4, 1, "wins", 2) + ";core;mark;mark;core;mark;mark;core;mark;mark");
+        TriedLines t = Check.told(Look.head(1, 4, 1, "wins", 2) + ";core;mark;mark;core;mark;mark;core;mark;mark");
         Check.due("draws(1, 1)", t.draws(1, 1), 1);
         Check.due("core(2, 0)", t.core(2, 0), 1);
         Check.due("draws(5, 1)", t.draws(5, 1), 5);
@@ -463,7 +438,7 @@ public final class StepTests {
         Check.due("core(1, 0)", t.core(1, 0), -2);
         Check.due("core(2, 0)", t.core(2, 0), -2);
         Check.due("about(7)", t.about(7), 6);
-        TriedLines u = Check.told(head(1, 4, 1, "wins", 2) + ";core;mark;core;mark;mark;core");
+        TriedLines u = Check.told(Look.head(1, 4, 1, "wins", 2) + ";core;mark;core;mark;mark;core");
         Check.due("draws(5, 1) with two of nothing", u.draws(5, 1), 3);
         Check.due("about(7) then", u.about(7), 3);
         Check.due("draws(1000, 65535)", u.draws(1000, 65535), 0);
@@ -474,7 +449,7 @@ public final class StepTests {
     }
 
     private static void alone() {
-        TriedLines t = Check.told(head(1, 1, 1, "wins", 2) + ";word 0 1;core;plus 50;begin;get 0;plus 1;put 0;end"
+        TriedLines t = Check.told(Look.head(1, 1, 1, "wins", 2) + ";word 0 1;core;plus 50;begin;get 0;plus 1;put 0;end"
             + ";core;begin;get 0;mark;put 0 x;plus 3;put 0;end;core;begin;put 2;end");
         // 0, 1, 2: 2, then 2 at address 2 and 5, then 0 at address 2
         Check.due("alone(0, 0)", t.alone(0, 0), 5);
@@ -489,7 +464,7 @@ public final class StepTests {
         Check.due("nothing is done", t.about(7), 0);
         Check.due("word(0)", t.word(0), 1);
         // all DEEDS, behind the first end, too; A and X are 0 at each begin
-        TriedLines u = Check.told(head(1, 4, 1, "wins", 2) + ";core;begin;plus 3;mark;put 1;end;less 2;mark"
+        TriedLines u = Check.told(Look.head(1, 4, 1, "wins", 2) + ";core;begin;plus 3;mark;put 1;end;less 2;mark"
             + ";begin;put 2 x;get 1 x;less 5;put 4;end");
         Check.due("alone(0, 1)", u.alone(0, 1), 3);
         Check.due("alone(0, 4)", u.alone(0, 4), 998);
@@ -500,7 +475,7 @@ public final class StepTests {
     }
 
     private static void refusals() {
-        TriedLines t = Check.told(head(2, 3, 1, "wins", 2) + ";core;begin;put 0;end;core");
+        TriedLines t = Check.told(Look.head(2, 3, 1, "wins", 2) + ";core;begin;put 0;end;core");
         t.rounds(5);
         int[] addresses = {-1, 16, 64, Integer.MAX_VALUE, Integer.MIN_VALUE};
         for (int a : addresses) {

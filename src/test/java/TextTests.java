@@ -18,24 +18,6 @@ public final class TextTests {
         Check.end("TextTests");
     }
 
-    /** A text with a ^ ahead of its FAULT. */
-    private static void faulty(int fault, String marked) {
-        int at = marked.indexOf('^');
-        Check.faulty(marked.substring(0, at) + marked.substring(at + 1), fault, at);
-    }
-
-    private static void good(String text, int cores) {
-        TriedLines t = new TriedLines();
-        Check.due("machine '" + text + "'", Check.tell(t, text), cores);
-        Check.due("fault of '" + text + "'", t.fault(), 0);
-        Check.due("where of '" + text + "'", t.where(), -1);
-        Check.due("trouble of '" + text + "'", t.trouble(), 0);
-    }
-
-    private static String repeat(String part, int n) {
-        return part.repeat(n);
-    }
-
     /** Promise 1. */
     private static void newObject() {
         TriedLines t = new TriedLines();
@@ -99,7 +81,7 @@ public final class TextTests {
         Check.feed(t, HEAD + ";core;plus 123");
         Check.due("machine() up to plus 12", t.machine(HEAD.length() + 13), 1);
         Check.due("its WHOLE", t.deed(0, 0, 1), 12);
-        good(HEAD + ";core", 1);
+        Check.good(HEAD + ";core", 1);
         Check.faulty("", 1, 0);
     }
 
@@ -128,48 +110,48 @@ public final class TextTests {
     }
 
     private static void forms() {
-        good("machine sets1ways2words4rule yields tries9;word63 999;core;begin;get63x;put 063 x;end;plus007;less 1;mark", 1);
-        good("   machine  sets 4 ways 4 words 2 rule age tries 1 ; core  ", 1);
-        faulty(1, "^Machine");
-        faulty(1, "^sets 1");
-        faulty(1, "^7");
-        faulty(1, "^;core");
-        faulty(1, "^x");
-        faulty(1, "machine ^ways 1");
-        faulty(1, "machine sets^");
-        faulty(1, "machine sets   ^");
-        faulty(1, "machine sets ^x");
-        faulty(1, "machine sets ^0001 ways 1");
-        faulty(1, "machine sets 1 ways 1 words 1 rule ^lose tries 1");
-        faulty(1, "machine sets 1 ways 1 words 1 rule ^1 tries 1");
-        faulty(1, "machine sets 1 ways 1 words 1 ^tries 1 rule wins");
-        faulty(1, HEAD + ";^");
-        faulty(1, HEAD + " ^x;core");
-        faulty(1, HEAD + ";^;core");
-        faulty(1, HEAD + ";core;^");
-        faulty(1, HEAD + ";core ^1");
-        faulty(1, HEAD + ";core;plus^");
-        faulty(1, HEAD + ";core;plus ^;mark");
-        faulty(1, HEAD + ";core;plus 5 ^x");
-        faulty(1, HEAD + ";core;mark ^x");
-        faulty(1, HEAD + ";core;begin;get ^x 5;end");
-        faulty(1, HEAD + ";core;begin;get 5 x ^x;end");
-        faulty(1, HEAD + ";core;begin;get 5 ^y;end");
-        faulty(1, HEAD + ";core;begin;get 5 ^end");
-        faulty(1, HEAD + ";core;^beginend");
-        faulty(1, HEAD + ";core;^markz");
-        faulty(1, HEAD + ";core;^amark");
-        faulty(1, HEAD + ";core;plus 90^/");
-        faulty(1, HEAD + ";core;plus 90^:");
-        faulty(1, HEAD + ";core^{");
-        faulty(1, HEAD + ";core^`");
-        faulty(1, HEAD + ";core;^plusses");
-        faulty(1, HEAD + ";core;plus ^1234");
-        faulty(1, HEAD + ";core;plus 12^,");
-        faulty(1, HEAD + ";core^\n");
-        faulty(1, HEAD + ";core^\u00e9");
-        faulty(1, HEAD + ";word 1^");
-        faulty(1, HEAD + ";word 1 2 ^3");
+        Check.good("machine sets1ways2words4rule yields tries9;word63 999;core;begin;get63x;put 063 x;end;plus007;less 1;mark", 1);
+        Check.good("   machine  sets 4 ways 4 words 2 rule age tries 1 ; core  ", 1);
+        Check.faulty(1, "^Machine");
+        Check.faulty(1, "^sets 1");
+        Check.faulty(1, "^7");
+        Check.faulty(1, "^;core");
+        Check.faulty(1, "^x");
+        Check.faulty(1, "machine ^ways 1");
+        Check.faulty(1, "machine sets^");
+        Check.faulty(1, "machine sets   ^");
+        Check.faulty(1, "machine sets ^x");
+        Check.faulty(1, "machine sets ^0001 ways 1");
+        Check.faulty(1, "machine sets 1 ways 1 words 1 rule ^lose tries 1");
+        Check.faulty(1, "machine sets 1 ways 1 words 1 rule ^1 tries 1");
+        Check.faulty(1, "machine sets 1 ways 1 words 1 ^tries 1 rule wins");
+        Check.faulty(1, HEAD + ";^");
+        Check.faulty(1, HEAD + " ^x;core");
+        Check.faulty(1, HEAD + ";^;core");
+        Check.faulty(1, HEAD + ";core;^");
+        Check.faulty(1, HEAD + ";core ^1");
+        Check.faulty(1, HEAD + ";core;plus^");
+        Check.faulty(1, HEAD + ";core;plus ^;mark");
+        Check.faulty(1, HEAD + ";core;plus 5 ^x");
+        Check.faulty(1, HEAD + ";core;mark ^x");
+        Check.faulty(1, HEAD + ";core;begin;get ^x 5;end");
+        Check.faulty(1, HEAD + ";core;begin;get 5 x ^x;end");
+        Check.faulty(1, HEAD + ";core;begin;get 5 ^y;end");
+        Check.faulty(1, HEAD + ";core;begin;get 5 ^end");
+        Check.faulty(1, HEAD + ";core;^beginend");
+        Check.faulty(1, HEAD + ";core;^markz");
+        Check.faulty(1, HEAD + ";core;^amark");
+        Check.faulty(1, HEAD + ";core;plus 90^/");
+        Check.faulty(1, HEAD + ";core;plus 90^:");
+        Check.faulty(1, HEAD + ";core^{");
+        Check.faulty(1, HEAD + ";core^`");
+        Check.faulty(1, HEAD + ";core;^plusses");
+        Check.faulty(1, HEAD + ";core;plus ^1234");
+        Check.faulty(1, HEAD + ";core;plus 12^,");
+        Check.faulty(1, HEAD + ";core^\n");
+        Check.faulty(1, HEAD + ";core^\u00e9");
+        Check.faulty(1, HEAD + ";word 1^");
+        Check.faulty(1, HEAD + ";word 1 2 ^3");
     }
 
     private static void bounds() {
@@ -177,80 +159,80 @@ public final class TextTests {
             boolean fits = sets == 1 || sets == 2 || sets == 4;
             String from = "machine sets ";
             if (fits) {
-                good(from + sets + " ways 1 words 1 rule wins tries 1;core", 1);
-                good("machine sets 1 ways 1 words " + sets + " rule wins tries 1;core", 1);
+                Check.good(from + sets + " ways 1 words 1 rule wins tries 1;core", 1);
+                Check.good("machine sets 1 ways 1 words " + sets + " rule wins tries 1;core", 1);
             } else {
-                faulty(2, from + "^" + sets + " ways 1 words 1 rule wins tries 1;core");
-                faulty(2, "machine sets 1 ways 1 words ^" + sets + " rule wins tries 1;core");
+                Check.faulty(2, from + "^" + sets + " ways 1 words 1 rule wins tries 1;core");
+                Check.faulty(2, "machine sets 1 ways 1 words ^" + sets + " rule wins tries 1;core");
             }
         }
-        faulty(2, "machine sets 1 ways ^0");
-        good("machine sets 1 ways 4 words 1 rule wins tries 9;core", 1);
-        faulty(2, "machine sets 1 ways ^5 words 1");
-        faulty(2, "machine sets 1 ways 1 words 1 rule wins tries ^0;core");
-        faulty(2, "machine sets 1 ways 1 words 1 rule wins tries ^10;core");
-        good(HEAD + ";word 15 0;core", 1);
-        faulty(2, HEAD + ";word ^16 0;core");
-        faulty(2, "machine sets 1 ways 1 words 2 rule wins tries 1;word ^32 0;core");
-        faulty(2, "machine sets 1 ways 1 words 4 rule wins tries 1;word ^64 0;core");
-        good(HEAD + ";core;begin;get 15;put 15 x;end;plus 0;less 999", 1);
-        faulty(2, HEAD + ";core;begin;get ^16;end");
-        faulty(2, HEAD + ";core;begin;put ^999 x;end");
-        faulty(2, HEAD + ";core;begin;put ^16 17;end");
+        Check.faulty(2, "machine sets 1 ways ^0");
+        Check.good("machine sets 1 ways 4 words 1 rule wins tries 9;core", 1);
+        Check.faulty(2, "machine sets 1 ways ^5 words 1");
+        Check.faulty(2, "machine sets 1 ways 1 words 1 rule wins tries ^0;core");
+        Check.faulty(2, "machine sets 1 ways 1 words 1 rule wins tries ^10;core");
+        Check.good(HEAD + ";word 15 0;core", 1);
+        Check.faulty(2, HEAD + ";word ^16 0;core");
+        Check.faulty(2, "machine sets 1 ways 1 words 2 rule wins tries 1;word ^32 0;core");
+        Check.faulty(2, "machine sets 1 ways 1 words 4 rule wins tries 1;word ^64 0;core");
+        Check.good(HEAD + ";core;begin;get 15;put 15 x;end;plus 0;less 999", 1);
+        Check.faulty(2, HEAD + ";core;begin;get ^16;end");
+        Check.faulty(2, HEAD + ";core;begin;put ^999 x;end");
+        Check.faulty(2, HEAD + ";core;begin;put ^16 17;end");
     }
 
     private static void againAndMany() {
-        faulty(3, HEAD + ";^" + HEAD);
-        faulty(3, HEAD + ";core;^machine 9");
-        faulty(3, HEAD + ";word 3 1;word 4 1;word ^3 x");
-        faulty(3, HEAD + ";word 3 1;word ^003 1;core");
+        Check.faulty(3, HEAD + ";^" + HEAD);
+        Check.faulty(3, HEAD + ";core;^machine 9");
+        Check.faulty(3, HEAD + ";word 3 1;word 4 1;word ^3 x");
+        Check.faulty(3, HEAD + ";word 3 1;word ^003 1;core");
         StringBuilder words = new StringBuilder(HEAD);
         for (int i = 0; i < 12; i++) {
             words.append(";word ").append(i).append(" 1");
         }
-        good(words + ";core", 1);
-        faulty(4, words + ";^word 12 1;core");
-        faulty(4, words + ";^word 0 1;core");
-        faulty(4, words + ";core;^word !");
-        good(HEAD + repeat(";core", 4), 4);
-        faulty(4, HEAD + repeat(";core", 4) + ";^core");
-        good(HEAD + ";core" + repeat(";mark", 24) + ";core" + repeat(";mark", 24), 2);
-        faulty(4, HEAD + ";core" + repeat(";mark", 24) + ";^mark");
-        faulty(4, HEAD + ";core;mark;core" + repeat(";mark", 24) + ";^plus");
-        faulty(4, HEAD + ";core;begin" + repeat(";get 0", 23) + ";^end");
+        Check.good(words + ";core", 1);
+        Check.faulty(4, words + ";^word 12 1;core");
+        Check.faulty(4, words + ";^word 0 1;core");
+        Check.faulty(4, words + ";core;^word !");
+        Check.good(HEAD + ";core".repeat(4), 4);
+        Check.faulty(4, HEAD + ";core".repeat(4) + ";^core");
+        Check.good(HEAD + ";core" + ";mark".repeat(24) + ";core" + ";mark".repeat(24), 2);
+        Check.faulty(4, HEAD + ";core" + ";mark".repeat(24) + ";^mark");
+        Check.faulty(4, HEAD + ";core;mark;core" + ";mark".repeat(24) + ";^plus");
+        Check.faulty(4, HEAD + ";core;begin" + ";get 0".repeat(23) + ";^end");
     }
 
     private static void lacksAndOpen() {
-        faulty(5, "^core");
-        faulty(5, "^word 0 0;" + HEAD);
-        faulty(5, "^get 99");
-        faulty(5, " ^begin;end");
-        faulty(5, HEAD + ";^mark;core");
-        faulty(5, HEAD + ";^begin;core");
-        faulty(5, HEAD + ";^get 0;core");
-        faulty(5, HEAD + "^");
-        faulty(5, HEAD + ";word 0 1  ^");
-        faulty(6, HEAD + ";core;begin;^begin");
-        faulty(6, HEAD + ";core;begin;mark;^begin;end");
-        faulty(6, HEAD + ";core;^end");
-        faulty(6, HEAD + ";core;begin;end;^end");
-        faulty(6, HEAD + ";core;^get 0");
-        faulty(6, HEAD + ";core;begin;end;^put 99");
-        faulty(6, HEAD + ";core;begin;^core");
-        faulty(6, HEAD + ";core;begin^");
-        faulty(6, HEAD + ";core;begin;end;begin;get 5 x ^");
-        good(HEAD + ";core;begin;end;begin;word 1 1;end;word 2 1", 1);
+        Check.faulty(5, "^core");
+        Check.faulty(5, "^word 0 0;" + HEAD);
+        Check.faulty(5, "^get 99");
+        Check.faulty(5, " ^begin;end");
+        Check.faulty(5, HEAD + ";^mark;core");
+        Check.faulty(5, HEAD + ";^begin;core");
+        Check.faulty(5, HEAD + ";^get 0;core");
+        Check.faulty(5, HEAD + "^");
+        Check.faulty(5, HEAD + ";word 0 1  ^");
+        Check.faulty(6, HEAD + ";core;begin;^begin");
+        Check.faulty(6, HEAD + ";core;begin;mark;^begin;end");
+        Check.faulty(6, HEAD + ";core;^end");
+        Check.faulty(6, HEAD + ";core;begin;end;^end");
+        Check.faulty(6, HEAD + ";core;^get 0");
+        Check.faulty(6, HEAD + ";core;begin;end;^put 99");
+        Check.faulty(6, HEAD + ";core;begin;^core");
+        Check.faulty(6, HEAD + ";core;begin^");
+        Check.faulty(6, HEAD + ";core;begin;end;begin;get 5 x ^");
+        Check.good(HEAD + ";core;begin;end;begin;word 1 1;end;word 2 1", 1);
     }
 
     /** Of FAULTS at one place the least number. */
     private static void leastNumber() {
-        faulty(1, HEAD + ";core;begin;^");
-        faulty(1, HEAD + ";^");
-        faulty(5, HEAD + ";^end;core");
-        faulty(4, HEAD + repeat(";core", 4) + ";begin;^core");
-        faulty(4, HEAD + ";core" + repeat(";mark", 24) + ";^end");
-        faulty(4, HEAD + ";core" + repeat(";mark", 23) + ";begin;^begin");
-        faulty(1, "^beginning");
+        Check.faulty(1, HEAD + ";core;begin;^");
+        Check.faulty(1, HEAD + ";^");
+        Check.faulty(5, HEAD + ";^end;core");
+        Check.faulty(4, HEAD + ";core".repeat(4) + ";begin;^core");
+        Check.faulty(4, HEAD + ";core" + ";mark".repeat(24) + ";^end");
+        Check.faulty(4, HEAD + ";core" + ";mark".repeat(23) + ";begin;^begin");
+        Check.faulty(1, "^beginning");
     }
 
     /** Promises 4 and 5. */

@@ -15,10 +15,6 @@ public final class WhatIfTests {
 
     private static final String TWO = ";core;begin;put 0;end;core;begin;plus 8;put 0;end";
 
-    private static String head(int sets, int ways, int words, String rule, int tries) {
-        return "machine sets " + sets + " ways " + ways + " words " + words + " rule " + rule + " tries " + tries;
-    }
-
     private static void all(TriedLines t, int rule, int tries, int seed, int... due) {
         for (int what = 0; what < due.length; what++) {
             String call = "tried(" + rule + ", " + tries + ", " + seed + ", " + what + ")";
@@ -31,7 +27,7 @@ public final class WhatIfTests {
      * that by no RULE there is a CONFLICT.
      */
     private static void tried() {
-        TriedLines t = Check.told(head(1, 4, 1, "wins", 3) + TWO);
+        TriedLines t = Check.told(Look.head(1, 4, 1, "wins", 3) + TWO);
         for (int rule = 0; rule < 3; rule++) {
             all(t, rule, 9, 1, 7, 0, 0, 0, 0, 0);
             Check.due("triedWord(" + rule + ")", t.triedWord(rule, 9, 1, 0), 8);
@@ -58,29 +54,29 @@ public final class WhatIfTests {
      */
     private static void triedWithLock() {
         String text = ";core;core;core;begin;get 0;end;core;begin;put 0;end";
-        TriedLines t = Check.told(head(1, 4, 1, "wins", 3) + text);
+        TriedLines t = Check.told(Look.head(1, 4, 1, "wins", 3) + text);
         all(t, 0, 2, 1, 8, 1, 0, 0, 0, 0);
         all(t, 0, 1, 1, 8, 1, 0, 0, 1, 0);
         // age: 3 WAITS for 2, twice, till 2 has ended
         all(t, 1, 2, 1, 8, 0, 0, 0, 0, 2);
         // yields: 3 begins, puts and ENDS, begins; 2 ends; then 3 puts, ends
         all(t, 2, 2, 1, 8, 1, 0, 0, 0, 0);
-        TriedLines u = Check.told(head(1, 1, 1, "wins", 3) + ";core;begin;get 0;end");
+        TriedLines u = Check.told(Look.head(1, 1, 1, "wins", 3) + ";core;begin;get 0;end");
         all(u, 0, 3, 0, 5, 0, 1, 0, 1, 0);
         // DRAWS mod 2 from SEED 20: 0 0 0 0 1 1 0 ..: 0 begins, gets, ENDS by CAPACITY, has the LOCK; 1 WAITS,
         // WAITS; 0 gets; 1 WAITS, WAITS; 0 ends; 0, 0, 0 nothing; 1 begins, ends
-        TriedLines v = Check.told(head(1, 2, 1, "wins", 3) + ";core;begin;get 0;get 1;end;core;begin;end");
+        TriedLines v = Check.told(Look.head(1, 2, 1, "wins", 3) + ";core;begin;get 0;get 1;end;core;begin;end");
         all(v, 0, 3, 20, 13, 0, 1, 0, 1, 4);
         // from SEED 3: 1 1 0 1 0 1 0 0 1 0 1 0 1 0 1 0 ..: 1 begins, gets; 0 begins; 1 ENDS by CAPACITY; 0 marks;
         // 1 has the LOCK, so 0 ENDS, and WAITS four times; 1 gets, gets, ends; then 0 does its four
-        all(Check.told(head(1, 2, 1, "wins", 3) + ";core;begin;mark;mark;end;core;begin;get 0;get 1;end"), 0, 3, 3,
+        all(Check.told(Look.head(1, 2, 1, "wins", 3) + ";core;begin;mark;mark;end;core;begin;get 0;get 1;end"), 0, 3, 3,
             17, 0, 1, 1, 1, 4);
         triedAfterAnother();
     }
 
     /** Each what if begins anew. */
     private static void triedAfterAnother() {
-        TriedLines t = Check.told(head(1, 4, 1, "wins", 3) + ";word 0 4;core;begin;get 0;plus 1;put 0;end");
+        TriedLines t = Check.told(Look.head(1, 4, 1, "wins", 3) + ";word 0 4;core;begin;get 0;plus 1;put 0;end");
         for (int i = 0; i < 3; i++) {
             Check.due("triedWord()", t.triedWord(0, 3, 5, 0), 5);
             Check.due("would()", t.would(0), 1);
@@ -91,20 +87,20 @@ public final class WhatIfTests {
     }
 
     private static void triedFromTheBeginning() {
-        TriedLines t = Check.told(head(1, 4, 1, "wins", 3) + ";word 0 4;core;begin;get 0;plus 1;put 0;end");
+        TriedLines t = Check.told(Look.head(1, 4, 1, "wins", 3) + ";word 0 4;core;begin;get 0;plus 1;put 0;end");
         t.rounds(200);
         all(t, 0, 3, 77, 5, 0, 0, 0, 0, 0);
         Check.due("triedWord()", t.triedWord(0, 3, 77, 0), 5);
         Check.due("word(0)", t.word(0), 5);
         Check.due("about(7)", t.about(7), 5);
-        all(Check.told(head(1, 1, 1, "age", 2) + ";core"), 1, 1, 0, 0, 0, 0, 0, 0, 0);
+        all(Check.told(Look.head(1, 1, 1, "age", 2) + ";core"), 1, 1, 0, 0, 0, 0, 0, 0, 0);
     }
 
     private static void best() {
         String text = ";core;core;core;begin;get 0;end;core;begin;put 0;end";
-        Check.due("best of like ones", Check.told(head(1, 4, 1, "yields", 2) + text).best(1), 0);
+        Check.due("best of like ones", Check.told(Look.head(1, 4, 1, "yields", 2) + text).best(1), 0);
         String longer = ";core;begin;get 0;get 0;put 1;end;core;begin;put 0;put 0;end";
-        TriedLines t = Check.told(head(1, 4, 1, "yields", 2) + longer);
+        TriedLines t = Check.told(Look.head(1, 4, 1, "yields", 2) + longer);
         // DRAWS mod 2 from SEED 1: 0 0 0 1 1 1 0 1 ..: core 1 wins, core 0 does three STEPS again
         Check.due("best(1)", t.best(1), 0);
         Check.due("its STEPS", t.tried(0, 2, 1, 0), 12);
@@ -124,22 +120,22 @@ public final class WhatIfTests {
 
     private static void ways() {
         String many = ";core;begin;get 0;get 1;put 2;put 1;end;begin;get 3;end;core;mark;core;begin;end";
-        TriedLines t = Check.told(head(1, 1, 1, "wins", 1) + many);
+        TriedLines t = Check.told(Look.head(1, 1, 1, "wins", 1) + many);
         Check.due("waysFor(0)", t.waysFor(0), 4);
         Check.due("waysFor without TRIES", t.waysFor(1), 1);
-        Check.due("waysFor of a later TRY", Check.told(head(1, 1, 1, "wins", 1)
+        Check.due("waysFor of a later TRY", Check.told(Look.head(1, 1, 1, "wins", 1)
             + ";core;begin;get 0;end;begin;get 0;get 1;end;begin;end").waysFor(0), 3);
         Check.due("waysFor of an empty TRY", t.waysFor(2), 1);
-        Check.due("by two SETS", Check.told(head(2, 1, 1, "wins", 1) + many).waysFor(0), 3);
-        Check.due("by four SETS", Check.told(head(4, 1, 1, "wins", 1) + many).waysFor(0), 2);
-        Check.due("by LINES of two", Check.told(head(1, 1, 2, "wins", 1) + many).waysFor(0), 3);
-        StringBuilder all = new StringBuilder(head(1, 4, 1, "age", 9) + ";core;begin");
+        Check.due("by two SETS", Check.told(Look.head(2, 1, 1, "wins", 1) + many).waysFor(0), 3);
+        Check.due("by four SETS", Check.told(Look.head(4, 1, 1, "wins", 1) + many).waysFor(0), 2);
+        Check.due("by LINES of two", Check.told(Look.head(1, 1, 2, "wins", 1) + many).waysFor(0), 3);
+        StringBuilder all = new StringBuilder(Look.head(1, 4, 1, "age", 9) + ";core;begin");
         for (int a = 0; a < 16; a++) {
             all.append(";get ").append(a);
         }
         Check.due("all seventeen", Check.told(all + ";end").waysFor(0), 17);
         // the words told at first lead X: 5, then what the core itself has put
-        TriedLines x = Check.told(head(1, 1, 1, "wins", 1) + ";word 0 5;core;begin;get 0;mark;get 0 x;get 5;end"
+        TriedLines x = Check.told(Look.head(1, 1, 1, "wins", 1) + ";word 0 5;core;begin;get 0;mark;get 0 x;get 5;end"
             + ";core;begin;plus 6;put 0;end");
         x.step(1);
         x.step(1);
@@ -152,7 +148,7 @@ public final class WhatIfTests {
         TriedLines t = new TriedLines();
         Check.due("keep() without a MACHINE", t.keep(), false);
         Check.due("its trouble()", t.trouble(), 1);
-        Check.tell(t, head(1, 2, 1, "wins", 2) + ";word 0 6;core;begin;get 0;plus 1;put 0;end;core;begin;put 0;put 1;end");
+        Check.tell(t, Look.head(1, 2, 1, "wins", 2) + ";word 0 6;core;begin;get 0;plus 1;put 0;end;core;begin;put 0;put 1;end");
         Check.due("back() without what is kept", t.back(), false);
         Check.due("its trouble()", t.trouble(), 1);
         Check.steps(t, "000", "111");
@@ -196,7 +192,7 @@ public final class WhatIfTests {
     }
 
     private static void done() {
-        TriedLines t = Check.told(head(1, 2, 1, "wins", 2) + ";core;mark;core;core;mark;core");
+        TriedLines t = Check.told(Look.head(1, 2, 1, "wins", 2) + ";core;mark;core;core;mark;core");
         Check.due("done(0)", Check.done(t, 0), 1);
         Check.due("done(1)", Check.done(t, 1), 3);
         Check.due("done(2)", Check.done(t, 2), Check.THROWN);
@@ -216,7 +212,7 @@ public final class WhatIfTests {
     }
 
     private static void sizes() {
-        TriedLines t = Check.told(head(1, 2, 1, "wins", 2) + ";word 3 0;word 9 1;core;mark;core;core;begin;end");
+        TriedLines t = Check.told(Look.head(1, 2, 1, "wins", 2) + ";word 3 0;word 9 1;core;mark;core;core;begin;end");
         Check.due("size(0)", t.size(0), 0);
         t.feed(0, 0, 0, 0, 0);
         Check.due("size(0)", t.size(0), 20);
@@ -245,7 +241,7 @@ public final class WhatIfTests {
         Check.due("2", t.trouble(), 2);
         t.machine(20);
         Check.due("4", t.trouble(), 4);
-        Check.tell(t, head(1, 2, 1, "wins", 2) + ";core");
+        Check.tell(t, Look.head(1, 2, 1, "wins", 2) + ";core");
         Check.due("0", t.trouble(), 0);
         t.interrupt(0);
         Check.due("5", t.trouble(), 5);
