@@ -355,6 +355,12 @@ final class CacheSentences {
         Look.place(t, 0, 0, 3, -2);
         Check.steps(t, "0", "1");
         Look.place(t, 0, 0, 3, 3);
+        // one with none is taken though ahead of it there is one without marks
+        TriedLines v = Check.told(head(1, 4, 1, "wins", 2) + ";core;begin;get 0;end;begin;get 1;end;begin;get 2;end");
+        Check.steps(v, "00000000", "11111111");
+        for (int way = 1; way < 4; way++) {
+            Look.place(v, 0, 0, way, way - 1);
+        }
         // a LINE that is there comes not again
         TriedLines u = Check.told(head(1, 4, 1, "wins", 2) + ";core;begin;get 0;get 0;put 0;put 0;end;begin;get 0;end");
         Check.steps(u, "00000000", "11111111");
@@ -521,6 +527,10 @@ final class CacheSentences {
         Check.due("sharers(0)", u.sharers(0), 2);
         Check.steps(u, "1", "1");
         Look.place(u, 1, 0, 1, 0, 1);
+        // one whose TRY ENDS by this, with a WRITE mark, has it no more
+        TriedLines w = Check.told(head(1, 2, 1, "wins", 2) + ";core;begin;put 0;end;core;begin;get 0;end");
+        Check.steps(w, "0011", "1111");
+        Look.place(w, 1, 0, 1, 0, 2);
         Document.says("II", "TO OWN: it is CHANGED then.");
         Check.steps(t, "1", "1");
         // SHARED before

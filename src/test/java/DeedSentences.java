@@ -340,8 +340,8 @@ final class DeedSentences {
 
     private static void markSetsX() {
         Document.says("III", "mark: X is A.");
-        TriedLines t = one("plus 5;mark;plus 6;begin;mark;plus 4;mark;end");
-        int[][] due = {{5, 0}, {5, 5}, {11, 5}, {0, 0}, {0, 0}, {4, 0}, {4, 4}, {4, 4}};
+        TriedLines t = one("plus 5;mark;plus 6;mark;mark;begin;mark;plus 4;mark;less 4;mark;end");
+        int[][] due = {{5, 0}, {5, 5}, {11, 5}, {11, 11}, {11, 11}, {0, 0}, {0, 0}, {4, 0}, {4, 4}, {0, 4}, {0, 0}, {0, 0}};
         for (int[] each : due) {
             Check.steps(t, "0", "1");
             Check.due("A", t.core(0, 1), each[0]);

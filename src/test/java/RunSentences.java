@@ -422,6 +422,7 @@ final class RunSentences {
         Check.due("triedWord(0, 9, 1, 1)", t.triedWord(0, 9, 1, 1), 5);
         Check.due("triedWord(0, 9, 1, 31)", t.triedWord(0, 9, 1, 31), 6);
         Check.due("triedWord(0, 9, 1, 2)", t.triedWord(0, 9, 1, 2), 0);
+        triedWordByRuleTries();
         TriedLines u = Check.told(DONE_IN_2001);
         u.draws(1000, 404);
         u.draws(1000, seedBehind(1000, 404));
@@ -443,6 +444,31 @@ final class RunSentences {
         for (int[] each : bad) {
             Check.refused(t, "triedWord" + java.util.Arrays.toString(each), t.triedWord(each[0], each[1], each[2], 0), 2);
         }
+    }
+
+    /** THE WORD is as by draws on a MACHINE told by that RULE, those TRIES; both are some matter. */
+    private static void triedWordByRuleTries() {
+        String text = ";core;begin;get 0;mark;put 1 x;plus 2;put 0;end".repeat(2) + ";core;begin;get 0;plus 3;put 1;put 0;end";
+        String[] rules = {"wins", "age", "yields"};
+        TriedLines t = Check.told(head(1, 4, 1, "wins", 5) + text);
+        boolean byRule = false;
+        boolean byTries = false;
+        for (int seed = 0; seed < 30; seed++) {
+            int[][] words = new int[3][2];
+            for (int rule = 0; rule < 3; rule++) {
+                for (int i = 0; i < 2; i++) {
+                    TriedLines u = Check.told(head(1, 4, 1, rules[rule], 1 + 7 * i) + text);
+                    u.draws(1000, seed);
+                    words[rule][i] = u.word(1);
+                    String call = "triedWord(" + rule + ", " + (1 + 7 * i) + ", " + seed + ", 1)";
+                    Check.due(call, t.triedWord(rule, 1 + 7 * i, seed, 1), words[rule][i]);
+                }
+                byTries |= words[rule][0] != words[rule][1];
+            }
+            byRule |= words[0][0] != words[1][0] || words[0][0] != words[2][0];
+        }
+        Check.due("the RULE is some matter", byRule, true);
+        Check.due("TRIES are some matter", byTries, true);
     }
 
     private static void best() {
@@ -549,8 +575,8 @@ final class RunSentences {
         TriedLines t = Check.told(head(1, 1, 1, "wins", 1) + ";word 0 5;core;begin;get 0;mark;get 0 x;get 5;end"
             + ";core;begin;plus 6;put 0;end;core;begin;plus 5;put 0;end;begin;get 0;mark;get 0 x;get 5;end");
         Check.due("waysFor(0)", t.waysFor(0), 3);
-        t.rounds(200);
-        Check.due("word(0)", t.word(0) != 5 || t.count(0, 4) == 1, true);
+        Check.steps(t, "1111111", "1131111");
+        Check.due("word(0)", t.word(0), 6);
         Check.due("waysFor(0) behind others", t.waysFor(0), 3);
         Check.due("waysFor(2)", t.waysFor(2), 3);
         Document.says("33", "NONE: 1.");
@@ -568,7 +594,9 @@ final class RunSentences {
         Check.steps(t, "00211", "11111");
         String second = Look.state(t);
         int time = t.about(7);
+        t.word(-1);
         Check.due("keep() again", t.keep(), true);
+        Check.due("trouble()", t.trouble(), 0);
         Check.due("state", Look.state(t), second);
         Check.due("another", first.equals(second), false);
         Check.steps(t, "111", "311");

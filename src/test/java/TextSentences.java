@@ -378,6 +378,7 @@ final class TextSentences {
             boolean begins = b == ' ' || b == ';' || b >= '0' && b <= '9' || b >= 'a' && b <= 'z';
             if (!begins) {
                 Check.faulty(1, HEAD + ";core;plus 5^" + (char) b + "6");
+                Check.faulty(1, HEAD + ";core;mark^" + (char) b + "x");
             }
         }
         Check.faulty(1, "^!");

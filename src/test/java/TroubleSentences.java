@@ -37,11 +37,11 @@ final class TroubleSentences {
         aheadOfTold();
     }
 
-    /** Core 0 has committed once and is in a TRY, core 1 is OUT; something is kept. */
+    /** Core 0 has committed once and is in a TRY, core 1 is OUT and done; something is kept. */
     private static TriedLines told() {
         TriedLines t = Check.told(Look.head(2, 2, 1, "wins", 2)
             + ";core;begin;end;begin;get 0;get 1;end;core;mark;mark");
-        Check.steps(t, "0001", "1111");
+        Check.steps(t, "00011", "11111");
         t.keep();
         return t;
     }
