@@ -320,7 +320,8 @@ final class DeedSentences {
 
     private static void plusAndLess() {
         Document.says("III", "plus, less: A is that much more, less, mod 1000 (0 .. 999).");
-        TriedLines t = one("plus 0;less 0;plus 999;plus 1;less 1;plus 999;less 999;plus 2;less 1;less 2;less 999;less 999;plus 0");
+        TriedLines t = one("plus 0;less 0;plus 999;plus 1;less 1;plus 999;less 999;plus 2;less 1;less 2"
+            + ";less 999;less 999;plus 0");
         int[] as = {0, 0, 999, 0, 999, 998, 999, 1, 0, 998, 999, 0, 0};
         for (int i = 0; i < as.length; i++) {
             Check.steps(t, "0", "1");

@@ -41,6 +41,10 @@ public final class FaceTests {
                 String parameters = java.util.Arrays.toString(method.getParameterTypes()).replaceAll("[\\[\\]]", "");
                 got.add(method.getReturnType() + " " + method.getName() + "(" + parameters + ")");
                 Check.due(method.getName() + " is public", Modifier.isPublic(method.getModifiers()), true);
+                Class<?>[] thrown = method.getExceptionTypes();
+                boolean throwsIt = thrown.length == 1 && thrown[0] == java.util.NoSuchElementException.class;
+                Check.due(method.getName() + " throws", thrown.length, method.getName().equals("done") ? 1 : 0);
+                Check.due(method.getName() + " throws it", throwsIt, method.getName().equals("done"));
             }
         }
         Check.due("calls in the document", due.size(), 37);

@@ -31,9 +31,10 @@ final class FewDraws {
             try {
                 Path copy = folder.resolve("TriedLines.java");
                 Files.writeString(copy, source.replace(MANY, FEW), StandardCharsets.UTF_8);
-                int failed = ToolProvider.getSystemJavaCompiler().run(null, null, null, "-d", folder.toString(), copy.toString());
-                Check.due("compiling the copy", failed, 0);
-                try (URLClassLoader loader = new URLClassLoader(new URL[] {folder.toUri().toURL()}, ClassLoader.getPlatformClassLoader())) {
+                String[] options = {"-d", folder.toString(), copy.toString()};
+                Check.due("compiling the copy", ToolProvider.getSystemJavaCompiler().run(null, null, null, options), 0);
+                URL[] classes = {folder.toUri().toURL()};
+                try (URLClassLoader loader = new URLClassLoader(classes, ClassLoader.getPlatformClassLoader())) {
                     look(loader.loadClass("TriedLines"));
                 }
             } finally {

@@ -113,7 +113,8 @@ final class RunSentences {
     private static void asTold() {
         Document.says("IV", "as told,");
         // from SEED 0 by one core: SETS, WAYS, WORDS as told let the TRY END or not
-        int[][] each = {{1, 1, 1, 1}, {1, 2, 1, 1}, {1, 3, 1, 0}, {2, 1, 1, 1}, {4, 1, 1, 0}, {2, 2, 1, 0}, {1, 2, 4, 0}, {1, 1, 4, 1}};
+        int[][] each = {{1, 1, 1, 1}, {1, 2, 1, 1}, {1, 3, 1, 0}, {2, 1, 1, 1},
+            {4, 1, 1, 0}, {2, 2, 1, 0}, {1, 2, 4, 0}, {1, 1, 4, 1}};
         for (int[] e : each) {
             TriedLines t = Check.told(head(e[0], e[1], e[2], "wins", 3) + ";word 3 7;core;begin;get 2;get 3;put 3;end");
             Check.due("by CAPACITY of " + e[0] + " " + e[1] + " " + e[2], t.tried(0, 1, 0, 2), e[3]);
@@ -179,8 +180,8 @@ final class RunSentences {
         Document.says("24",
             "What a STEP of a core would be: 0 none (no DEED left), 1 its DEED is done, 2 it WAITS, 3 its TRY ENDS.");
         TriedLines t = Check.told(head(1, 2, 1, "age", 2) + ";core;begin;put 0;get 1;end;core;begin;get 0;end;core");
-        int[][] due = {{2, 0}, {0, 1}, {1, 1}, {0, 1}, {1, 2}, {0, 3}, {1, 1}, {0, 1}, {1, 2}, {0, 1}, {0, 1}, {0, 1}, {0, 0}, {1, 1},
-            {1, 1}, {1, 1}, {1, 0}};
+        int[][] due = {{2, 0}, {0, 1}, {1, 1}, {0, 1}, {1, 2}, {0, 3}, {1, 1}, {0, 1}, {1, 2}, {0, 1}, {0, 1}, {0, 1},
+            {0, 0}, {1, 1}, {1, 1}, {1, 1}, {1, 0}};
         for (int[] each : due) {
             String before = t.about(7) + " " + t.core(each[0], 0) + " " + t.count(each[0], 6);
             for (int i = 0; i < 2; i++) {
