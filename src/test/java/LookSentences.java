@@ -143,11 +143,11 @@ final class LookSentences {
         String text = head(2, 2, 2, "yields", 3) + ";word 1 9;core;begin;get 0;end;core;core";
         // the MACHINE ahead of it has the LOCK let go, TRIES with marks of both kinds, A, X, something kept
         TriedLines t = Check.told(head(1, 4, 1, "wins", 1) + ";word 0 5;word 2 7"
-            + ";core;begin;get 2;mark;get 3;put 4;put 3;end;core;begin;get 0;get 1;get 2;get 3;end;core;mark");
+            + ";core;begin;get 2;mark;get 3;put 4;put 3;plus 9;end;core;begin;get 0;get 1;get 2;get 3;end;core;mark");
         Check.steps(t, "11111111111", "11113111111");
-        Check.steps(t, "000000", "111111");
+        Check.steps(t, "0000000", "1111111");
         t.keep();
-        Check.due("a TRY with marks, X", t.writes(0) * 10 + t.core(0, 2), 247);
+        Check.due("a TRY with marks, A, X", t.writes(0) * 100 + t.core(0, 1) * 10 + t.core(0, 2), 2497);
         Check.due("machine()", Check.tell(t, text), 3);
         int[] about = {2, 2, 2, 2, 3, 3, 32};
         for (int what = 0; what < about.length; what++) {
@@ -737,13 +737,14 @@ final class LookSentences {
             Check.steps(t, "00", "11");
             for (int lost = 0; lost < tries; lost++) {
                 Check.steps(t, "1", "1");
-                String before = Look.state(t);
+                // an object is good for 512 calls
+                String before = lost == 0 ? Look.state(t) : "";
                 int[] due = {lost + 1 >= tries ? 1 : 0, 1, 0, 0};
                 for (int cause = 0; cause < 4; cause++) {
                     Check.due("advice(1, " + cause + ") of " + lost, t.advice(1, cause), due[cause]);
                     Check.due("trouble()", t.trouble(), 0);
                 }
-                Check.due("state", Look.state(t), before);
+                Check.due("state", lost == 0 ? Look.state(t) : "", before);
                 Check.steps(t, "1", "3");
             }
         }

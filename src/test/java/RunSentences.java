@@ -295,11 +295,8 @@ final class RunSentences {
         // STEPS that WAIT, and that END a TRY, are STEPS
         Check.due("STEPS are TIME", u.about(7), all);
         Check.due("more are left", u.rounds(1) > 0, true);
-        int steps = all + u.about(7) - all;
-        for (int i = 201; i < 542; i++) {
-            steps += u.rounds(1);
-        }
-        Check.due("STEPS up to round 542", steps, u.about(7));
+        int time = u.about(7);
+        Check.due("STEPS up to round 542", time + u.rounds(200) + u.rounds(141), u.about(7));
         Check.due("not all is done", Check.done(u, 3), Check.THROWN);
         u.rounds(1);
         Check.due("all is done", Check.done(u, 3), 3);
@@ -675,6 +672,16 @@ final class RunSentences {
         Check.due("its begin's DEED", t.interrupt(0), 4);
         Check.steps(t, "000000000", "111111111");
         Check.due("agrees()", t.agrees(), 1);
+        // in the last PLACE of the last core, in the last word of its LINE
+        TriedLines u = Check.told(head(4, 4, 4, "wins", 2) + ";core;core;core"
+            + ";core;begin;get 12;get 28;get 44;plus 5;put 63;end;begin;plus 6;put 63;end");
+        Check.steps(u, "3333333", "1111111");
+        Look.place(u, 3, 3, 3, 15, 3, 0, 0, 6);
+        u.keep();
+        Check.steps(u, "3333", "1111");
+        u.back();
+        Check.due("word(63)", u.word(63), 5);
+        Check.due("cached(3, 63)", u.cached(3, 63), 5);
     }
 
     private static void done() {

@@ -410,9 +410,11 @@ final class TextSentences {
         Check.feed(t, HEAD + ";core;plus 5");
         Check.due("machine(n)", t.machine(HEAD.length() + 10), -1);
         Check.due("where()", t.where(), HEAD.length() + 10);
-        Check.feed(t, "core");
-        Check.due("machine(0)", t.machine(0), -1);
-        Check.due("fault(), where()", t.fault() * 10 + t.where(), 10);
+        for (String text : new String[] {"core", " core", ";", "0"}) {
+            Check.feed(t, text);
+            Check.due("machine(0)", t.machine(0), -1);
+            Check.due("fault(), where()", t.fault() * 10 + t.where(), 10);
+        }
     }
 
     private static void outOfBounds() {
@@ -490,8 +492,8 @@ final class TextSentences {
         Check.faulty(6, HEAD + ";core;begin;end;begin;mark^");
         // of the next text none is open, nor is there a machine, a word, a core
         TriedLines t = new TriedLines();
-        Check.tell(t, HEAD + ";word 3 1;core;core;core;core;begin");
-        Check.due("the next", Check.tell(t, HEAD + ";word 3 1;core;core;core;core;mark"), 4);
+        Check.tell(t, HEAD + ";word 0 1;word 15 1;core;core;core;core;begin");
+        Check.due("the next", Check.tell(t, HEAD + ";word 15 1;word 0 1;core;core;core;core;mark"), 4);
         Check.due("the next without a machine", Check.tell(t, "core"), -1);
         Check.due("its FAULT", t.fault(), 5);
     }
