@@ -1,7 +1,3 @@
-import java.io.IOException;
-import java.io.UncheckedIOException;
-import java.nio.charset.StandardCharsets;
-import java.nio.file.Files;
 import java.nio.file.Path;
 import java.util.BitSet;
 import java.util.LinkedHashMap;
@@ -21,18 +17,18 @@ final class Document {
     private Document() {
     }
 
+    static String text() {
+        return Compiled.text(FILE);
+    }
+
     private static Map<String, String> parts() {
-        try {
-            String all = Files.readString(FILE, StandardCharsets.UTF_8);
-            String terms = all.substring(all.indexOf("## Terms"), all.indexOf("## Promise 1:"));
-            String promises = all.substring(all.indexOf("## Promise 1:"), all.indexOf("## Not promised"));
-            Map<String, String> parts = new LinkedHashMap<>();
-            split(parts, terms, "(?m)^(I|II|III|IV)\\. ");
-            split(parts, promises, "(?m)^## Promise (\\d+): .*\\s+`[^`]*`: ");
-            return parts;
-        } catch (IOException e) {
-            throw new UncheckedIOException(e);
-        }
+        String all = text();
+        String terms = all.substring(all.indexOf("## Terms"), all.indexOf("## Promise 1:"));
+        String promises = all.substring(all.indexOf("## Promise 1:"), all.indexOf("## Not promised"));
+        Map<String, String> parts = new LinkedHashMap<>();
+        split(parts, terms, "(?m)^(I|II|III|IV)\\. ");
+        split(parts, promises, "(?m)^## Promise (\\d+): .*\\s+`[^`]*`: ");
+        return parts;
     }
 
     private static void split(Map<String, String> parts, String text, String start) {

@@ -1,91 +1,45 @@
-import java.io.IOException;
+import com.sun.source.tree.ImportTree;
 import java.lang.management.ManagementFactory;
-import java.lang.reflect.Constructor;
-import java.lang.reflect.Field;
-import java.lang.reflect.Method;
-import java.lang.reflect.Modifier;
-import java.nio.charset.StandardCharsets;
-import java.nio.file.Files;
-import java.nio.file.Path;
-import java.util.Set;
-import java.util.TreeSet;
-import java.util.regex.Matcher;
-import java.util.regex.Pattern;
+import java.util.ArrayList;
+import java.util.List;
+import javax.lang.model.element.Modifier;
 
-/** The public face as the document prints it, what of LANGUAGE.md can be looked up, and the room. */
+/** The public face, line by line as the document prints it, and the room that its calls take. */
 public final class FaceTests {
-    private static final Path SOURCE = Path.of("src/main/java/TriedLines.java");
-    private static final Path DOCUMENT = Path.of("../shared/DOC.md");
-
-    public static void main(String[] args) throws IOException {
-        String source = Files.readString(SOURCE, StandardCharsets.UTF_8);
-        face();
-        names();
-        language(source);
+    public static void main(String[] args) {
+        face(new SourceTree());
         room();
         Check.end("FaceTests");
     }
 
-    /** Each line of the face in the document, told as reflection tells it. */
-    private static void face() throws IOException {
-        Set<String> due = new TreeSet<>();
-        String document = Files.readString(DOCUMENT, StandardCharsets.UTF_8);
-        Matcher m = Pattern.compile("    public (int|boolean) (\\w+)\\(([^)]*)\\)").matcher(document);
-        while (m.find()) {
-            String parameters = m.group(3).replaceAll(" \\w+(,|$)", "$1");
-            due.add(m.group(1) + " " + m.group(2) + "(" + parameters + ")");
-        }
-        Set<String> got = new TreeSet<>();
-        for (Method method : TriedLines.class.getDeclaredMethods()) {
-            if (!Modifier.isPrivate(method.getModifiers())) {
-                String parameters = java.util.Arrays.toString(method.getParameterTypes()).replaceAll("[\\[\\]]", "");
-                got.add(method.getReturnType() + " " + method.getName() + "(" + parameters + ")");
-                Check.due(method.getName() + " is public", Modifier.isPublic(method.getModifiers()), true);
-                Class<?>[] thrown = method.getExceptionTypes();
-                boolean throwsIt = thrown.length == 1 && thrown[0] == java.util.NoSuchElementException.class;
-                Check.due(method.getName() + " throws", thrown.length, method.getName().equals("done") ? 1 : 0);
-                Check.due(method.getName() + " throws it", throwsIt, method.getName().equals("done"));
+    /** The lines of the document's face, but for empty ones. */
+    private static List<String> lines() {
+        String document = Document.text();
+        String from = document.substring(document.indexOf("```java", document.indexOf("## The public face")) + 7);
+        List<String> lines = new ArrayList<>();
+        for (String line : from.substring(0, from.indexOf("```")).split("\n")) {
+            if (!line.isBlank()) {
+                lines.add(line.strip());
             }
         }
-        Check.due("calls in the document", due.size(), 37);
-        Check.due("the face " + got, got.equals(due), true);
-        for (Field field : TriedLines.class.getDeclaredFields()) {
-            boolean isNone = field.getName().equals("NONE");
-            Check.due(field.getName() + " is private", Modifier.isPrivate(field.getModifiers()), !isNone);
-            Check.due(field.getName() + " is final if static",
-                !Modifier.isStatic(field.getModifiers()) || Modifier.isFinal(field.getModifiers()), true);
-        }
-        Constructor<?>[] constructors = TriedLines.class.getDeclaredConstructors();
-        Check.due("constructors", constructors.length, 1);
-        Check.due("public constructor", Modifier.isPublic(constructors[0].getModifiers()), true);
-        Check.due("final class", Modifier.isFinal(TriedLines.class.getModifiers()), true);
+        return lines;
     }
 
-    private static void names() {
-        Set<String> face = new TreeSet<>();
-        for (Method method : TriedLines.class.getDeclaredMethods()) {
-            if (Modifier.isPublic(method.getModifiers())) {
-                face.add(method.getName());
-            }
+    private static void face(SourceTree tree) {
+        List<String> got = new ArrayList<>();
+        for (ImportTree each : tree.unit.getImports()) {
+            got.add(each.toString().strip());
         }
-        for (Class<?> inside : TriedLines.class.getDeclaredClasses()) {
-            Check.due(inside + " is static", Modifier.isStatic(inside.getModifiers()), true);
-            for (Method method : inside.getDeclaredMethods()) {
-                Check.due(inside + " " + method.getName() + " is no name of the face", face.contains(method.getName()), false);
-            }
+        got.add(SourceTree.flags(tree.outer().getModifiers().getFlags()) + "class " + tree.outer().getSimpleName() + " {");
+        got.addAll(tree.face());
+        got.add("}");
+        List<String> due = lines();
+        Check.due("lines of the face", got.size(), due.size());
+        Check.due("lines of the document", due.size(), 42);
+        for (int i = 0; i < due.size(); i++) {
+            Check.due("line " + i, i < got.size() ? got.get(i) : "", due.get(i));
         }
-    }
-
-    private static void language(String source) {
-        String[] unwanted = {"->", "::", "catch", "finally", "synchronized", "assert ", "instanceof", "static \\{",
-            "\" \\+", "\\+ \"", "Exact\\(", "throw new (?!NoSuchElementException\\(\\))", "\\bpackage\\b", "\\bvar\\b",
-            "new (?!int\\[|boolean\\[|Plan\\(|TextReader\\(|Cache[\\[(]|Core[\\[(]|Run\\(|Solo\\(|NoSuchElementException\\()",
-            "import (?!java\\.util\\.NoSuchElementException;)", "System\\.(?!arraycopy\\()", "Math\\.(?!max|min|floorMod)"};
-        for (String pattern : unwanted) {
-            Matcher m = Pattern.compile(pattern).matcher(source.replaceAll("(?m)//.*$|/\\*\\*.*?\\*/", ""));
-            Check.due("'" + pattern + "' stands in the source", m.find(), false);
-        }
-        Check.due("signs 1 to 127 alone", source.chars().allMatch(c -> c > 0 && c < 128), true);
+        Check.due("the class is public", tree.outer().getModifiers().getFlags().contains(Modifier.PUBLIC), true);
     }
 
     /** 512 of the dearest calls make no object; a hundred objects stay far below the room. */

@@ -1,21 +1,10 @@
-import java.io.IOException;
-import java.net.URL;
-import java.net.URLClassLoader;
-import java.nio.charset.StandardCharsets;
-import java.nio.file.Files;
-import java.nio.file.Path;
-import java.util.Comparator;
-import java.util.List;
-import java.util.stream.Collectors;
-import java.util.stream.Stream;
-import javax.tools.ToolProvider;
+import java.util.Map;
 
 /**
  * No MACHINE is known with which by no RULE all is done in 2,000 draws. So what if is looked at in a copy
  * of the class, too, that differs in one constant: it has 12 draws at most.
  */
 final class FewDraws {
-    private static final Path SOURCE = Path.of("src/main/java/TriedLines.java");
     private static final String MANY = "TRIED_DRAWS = 2000;";
     private static final String FEW = "TRIED_DRAWS = 12;";
 
@@ -24,34 +13,10 @@ final class FewDraws {
 
     /** What best() answers in the copy. */
     static void best() {
-        try {
-            String source = Files.readString(SOURCE, StandardCharsets.UTF_8);
-            Check.due("the bound stands once in the class", source.split(MANY, -1).length, 2);
-            Path folder = Files.createTempDirectory("few");
-            try {
-                Path copy = folder.resolve("TriedLines.java");
-                Files.writeString(copy, source.replace(MANY, FEW), StandardCharsets.UTF_8);
-                String[] options = {"-d", folder.toString(), copy.toString()};
-                Check.due("compiling the copy", ToolProvider.getSystemJavaCompiler().run(null, null, null, options), 0);
-                URL[] classes = {folder.toUri().toURL()};
-                try (URLClassLoader loader = new URLClassLoader(classes, ClassLoader.getPlatformClassLoader())) {
-                    look(loader.loadClass("TriedLines"));
-                }
-            } finally {
-                remove(folder);
-            }
-        } catch (IOException | ReflectiveOperationException e) {
-            Check.due("a copy of the class (" + e + ")", 0, 1);
-        }
-    }
-
-    private static void remove(Path folder) throws IOException {
-        try (Stream<Path> all = Files.walk(folder)) {
-            List<Path> deepestFirst = all.sorted(Comparator.reverseOrder()).collect(Collectors.toList());
-            for (Path each : deepestFirst) {
-                Files.delete(each);
-            }
-        }
+        String source = Compiled.source();
+        Check.due("the bound stands once in the class", source.split(MANY, -1).length, 2);
+        Map<String, String> copy = Map.of("TriedLines", source.replace(MANY, FEW));
+        Compiled.use("a copy of the class", copy, classes -> look(classes.loadClass("TriedLines")));
     }
 
     private static void look(Class<?> copy) throws ReflectiveOperationException {

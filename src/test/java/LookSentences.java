@@ -491,7 +491,7 @@ final class LookSentences {
         places(t, due, 4);
         Document.says("14", "NONE: 1 (no such core, SET, WAY, what).");
         int[][] none = {{-1, 0, 0, 0}, {3, 0, 0, 0}, {MIN, 0, 0, 0}, {MAX, 0, 0, 0}, {0, -1, 0, 0}, {0, 2, 0, 0}, {0, MIN, 0, 0},
-            {0, MAX, 0, 0}, {0, 0, -1, 0}, {0, 0, 2, 0}, {0, 1, 2, 0}, {0, 0, MIN, 0}, {0, 0, MAX, 0}, {0, 0, 0, -1},
+            {0, MAX, 0, 0}, {0, 0, -1, 0}, {0, 0, 2, 0}, {0, 1, 2, 0}, {0, 1, -1, 0}, {0, 0, MIN, 0}, {0, 0, MAX, 0}, {0, 0, 0, -1},
             {0, 0, 0, 5}, {0, 0, 0, MIN}, {0, 0, 0, MAX}};
         for (int[] each : none) {
             String call = "place" + java.util.Arrays.toString(each);
